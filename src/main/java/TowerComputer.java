@@ -164,6 +164,13 @@ public final class TowerComputer {
     private static final int SYS_ERROR = 38;
     private static final int SYS_WAIT = 39;
 
+    // Those subs of the system that stand in commands without being called by name.
+    private static final int NUMBER_OF_MULTIPLY = 3;
+    private static final int NUMBER_OF_DIVIDE = 4;
+    private static final int NUMBER_OF_ALLOC = 102;
+    private static final int NUMBER_OF_STRING_NEW = 300;
+    private static final int NUMBER_OF_APPEND_CHAR = 304;
+
     private final int[] tape = new int[TAPE_ROOM];
     private int tapeLength;
     private int lastPlace = NOWHERE;
@@ -209,10 +216,13 @@ public final class TowerComputer {
         }
         tapeLength = 0;
         scanner.scan(n, false);
-        int fault = compiler.compile();
-        loaded = fault == 0;
-        lastPlace = compiler.faultPlace;
-        return fault;
+        compiler.readText(false);
+        if (scanner.fault == 0) {
+            compiler.readText(true);
+        }
+        loaded = scanner.fault == 0;
+        lastPlace = scanner.placeOf(scanner.faultToken);
+        return scanner.fault;
     }
 
     public boolean keys(int n) {
@@ -336,17 +346,15 @@ public final class TowerComputer {
         tapeLength = 0;
         scanner.scan(n, true);
         board.remove();
-        int fault = chipReader.read();
-        lastPlace = chipReader.faultPlace;
-        if (fault == 0) {
-            fault = chipChecker.check();
-            lastPlace = chipChecker.faultPlace;
+        chipReader.read();
+        if (scanner.fault == 0) {
+            chipChecker.check();
         }
-        if (fault == 0) {
-            fault = board.build();
-            lastPlace = fault == 0 ? NOWHERE : n;
+        if (scanner.fault == 0 && !board.build()) {
+            scanner.blame(RING, scanner.size - 1);
         }
-        return fault;
+        lastPlace = scanner.placeOf(scanner.faultToken);
+        return scanner.fault;
     }
 
     public boolean drive(int k, int v) {
@@ -462,6 +470,9 @@ public final class TowerComputer {
         private int length;
         private int position;
         private boolean ofChips;
+        private int at;
+        private int fault;
+        private int faultToken;
 
         Scanner(int[] text) {
             this.text = text;
@@ -486,6 +497,42 @@ public final class TowerComputer {
             }
         }
 
+        void rewind() {
+            at = 0;
+            fault = 0;
+            faultToken = NONE;
+        }
+
+        int kind() {
+            return at >= 0 && at < size ? kinds[at] : STOP;
+        }
+
+        void expect(int wanted) {
+            if (kind() == wanted) {
+                at++;
+            } else {
+                stop(NO_SYNTAX);
+            }
+        }
+
+        /** Behind such a fault there is no token any more, so that all reading comes to its end. */
+        void stop(int number) {
+            if (fault == 0) {
+                boolean excess = at >= 0 && at < size && kinds[at] == EXCESS;
+                fault = excess ? NO_ROOM : number;
+                faultToken = at;
+            }
+            at = size;
+        }
+
+        /** Of the faults that do not stop the reading the first one from the left stays. */
+        void blame(int number, int token) {
+            if (fault == 0 || token < faultToken || token == faultToken && number < fault) {
+                fault = number;
+                faultToken = token;
+            }
+        }
+
         int kindOf(int token) {
             return token >= 0 && token < size ? kinds[token] : STOP;
         }
@@ -498,18 +545,24 @@ public final class TowerComputer {
             return token >= 0 && token < size ? values[token] : 0;
         }
 
-        int byteOf(int token, int i) {
-            return byteAt(placeOf(token) + i);
-        }
-
         void addTo(Names names, int token) {
             if (token >= 0 && token < size) {
                 names.add(highs[token], lows[token]);
             }
         }
 
+        /** The first one of the names from .. to - 1 that is this token. */
         int findIn(Names names, int token, int from, int to) {
-            return token >= 0 && token < size ? names.find(highs[token], lows[token], from, to) : NONE;
+            if (token < 0 || token >= size) {
+                return NONE;
+            }
+            int end = Math.min(to, names.size);
+            for (int i = Math.max(0, from); i < end; i++) {
+                if (names.high[i] == highs[token] && names.low[i] == lows[token]) {
+                    return i;
+                }
+            }
+            return NONE;
         }
 
         private int byteAt(int i) {
@@ -665,6 +718,7 @@ public final class TowerComputer {
         private final int[] used = new int[SEGMENTS];
         private int ownClass;
         private int ownSub;
+        private int ownRole;
         private int firstStatic;
         private int classVariables;
 
@@ -677,12 +731,11 @@ public final class TowerComputer {
             }
         }
 
-        void forgetText() {
-            classes.keep(SYSTEM_CLASSES);
-            subs.keep(SYSTEM_SUBS);
-        }
-
-        void beginText() {
+        void beginText(boolean told) {
+            if (!told) {
+                classes.keep(SYSTEM_CLASSES);
+                subs.keep(SYSTEM_SUBS);
+            }
             ownClass = SYSTEM_CLASSES - 1;
             ownSub = SYSTEM_SUBS - 1;
             used[STATICS] = 0;
@@ -696,8 +749,9 @@ public final class TowerComputer {
             variables.keep(0);
         }
 
-        void beginSub() {
+        void beginSub(int role) {
             ownSub++;
+            ownRole = role;
             used[ARGUMENT] = 0;
             used[LOCAL] = 0;
             variables.keep(classVariables);
@@ -710,9 +764,9 @@ public final class TowerComputer {
             }
         }
 
-        void tellSub(int role) {
+        void tellSub() {
             if (ownSub < ALL_SUBS && ownClass < ALL_CLASSES) {
-                roles[ownSub] = role;
+                roles[ownSub] = ownRole;
                 parameters[ownSub] = 0;
                 firstSubs[ownClass + 1] = subs.size;
             }
@@ -744,17 +798,13 @@ public final class TowerComputer {
             segments[v] = segment;
             cells[v] = number;
             numbers[v] = segment == STATICS ? number - firstStatic : number;
-            if (segment == ARGUMENT && ownRole() == METHOD) {
+            if (segment == ARGUMENT && ownRole == METHOD) {
                 numbers[v] = number + 1;
             }
             used[segment] = number + 1;
             if (segment == STATICS || segment == FIELDS) {
                 classVariables = variables.size;
             }
-        }
-
-        int ownRole() {
-            return roleOf(ownSub);
         }
 
         int roleOf(int sub) {
@@ -776,7 +826,7 @@ public final class TowerComputer {
 
     /**
      * Reads a text of the language twice: the first time for its syntax, its room and what it tells,
-     * the second time, when all that is told is known, for its names and its commands.
+     * the second time, when all that is told is known, for what its names mean and for its commands.
      */
     private static final class Compiler {
         private static final int MOST_OPEN = 25;
@@ -787,298 +837,219 @@ public final class TowerComputer {
         private final Scope scope = new Scope();
         private final Names entry = new Names(2, "Main main");
         private boolean naming;
-        private int at;
         private int open;
         private int stringsBytes;
         private int labels;
-        private int fault;
-        private int faultPlace;
 
         Compiler(Scanner tokens, Program program) {
             this.tokens = tokens;
             this.program = program;
         }
 
-        int compile() {
-            fault = 0;
-            faultPlace = NOWHERE;
-            naming = false;
-            scope.forgetText();
-            readText();
-            if (fault == 0) {
-                naming = true;
-                program.begin(tokens.placeOf(0));
-                readText();
+        private void openSign(int sign) {
+            if (tokens.kind() != sign) {
+                tokens.stop(NO_SYNTAX);
+            } else if (open >= MOST_OPEN) {
+                tokens.stop(NO_ROOM);
+            } else {
+                open++;
+                tokens.at++;
+            }
+        }
+
+        /** The second reading is for a text in which the first one has found no fault. */
+        void readText(boolean second) {
+            naming = second;
+            open = 0;
+            stringsBytes = 0;
+            tokens.rewind();
+            scope.beginText(second);
+            program.begin(second, tokens.placeOf(0));
+            for (int turn = 0; turn < MOST_LANGUAGE_TOKENS && tokens.kind() == CLASS; turn++) {
+                tokens.at++;
+                readClassName();
+                openSign('{');
+                readClassVariables();
+                for (int sub = 0; sub < MOST_LANGUAGE_TOKENS && beginsSub(tokens.kind()); sub++) {
+                    readSub();
+                }
+                tokens.expect('}');
+                open--;
+            }
+            tokens.expect(END);
+            if (second) {
                 findMain();
                 program.settleCalls();
             }
-            return fault;
         }
 
-        private int kind() {
-            return tokens.kindOf(at);
-        }
-
-        /** Behind such a fault there is no token any more, so that all reading comes to its end. */
-        private void stopReading(int number) {
-            if (fault == 0) {
-                fault = number;
-                faultPlace = tokens.placeOf(at);
-            }
-            at = tokens.size;
-        }
-
-        private void refuseToken() {
-            stopReading(kind() == EXCESS ? NO_ROOM : NO_SYNTAX);
-        }
-
-        private void blame(int number, int token) {
-            int place = tokens.placeOf(token);
-            if (fault == 0 || place < faultPlace || place == faultPlace && number < fault) {
-                fault = number;
-                faultPlace = place;
-            }
-        }
-
-        private void expect(int kind) {
-            if (kind() == kind) {
-                at++;
-            } else {
-                refuseToken();
-            }
-        }
-
-        private void openSign(int sign) {
-            if (kind() != sign) {
-                refuseToken();
-            } else if (open >= MOST_OPEN) {
-                stopReading(NO_ROOM);
-            } else {
-                open++;
-                at++;
-            }
-        }
-
-        private void closeSign(int sign) {
-            expect(sign);
-            open--;
-        }
-
-        private void readText() {
-            at = 0;
-            open = 0;
-            stringsBytes = 0;
-            scope.beginText();
-            for (int turn = 0; turn < MOST_LANGUAGE_TOKENS && kind() == CLASS; turn++) {
-                readClass();
-            }
-            if (kind() != END) {
-                refuseToken();
-            }
+        private static boolean beginsSub(int kind) {
+            return kind == CONSTRUCTOR || kind == FUNCTION || kind == METHOD;
         }
 
         private void findMain() {
             Names classes = scope.classes;
             int owner = classes.find(entry.high[0], entry.low[0], 0, classes.size);
-            int first = scope.firstSubOf(owner);
-            int behind = owner == NONE ? first : scope.firstSubOf(owner + 1);
-            int sub = scope.subs.find(entry.high[1], entry.low[1], first, behind);
+            int behind = owner == NONE ? 0 : scope.firstSubOf(owner + 1);
+            int sub = scope.subs.find(entry.high[1], entry.low[1], scope.firstSubOf(owner), behind);
             if (sub == NONE || scope.roleOf(sub) != FUNCTION || scope.parametersOf(sub) != 0) {
-                blame(NO_MAIN, tokens.size - 1);
+                tokens.blame(NO_MAIN, tokens.size - 1);
             } else {
                 program.chooseMain(sub);
             }
         }
 
-        private void readClass() {
-            at++;
-            readClassName();
-            openSign('{');
-            for (int turn = 0; turn < MOST_LANGUAGE_TOKENS && (kind() == STATIC || kind() == FIELD); turn++) {
-                int segment = kind() == STATIC ? STATICS : FIELDS;
-                at++;
-                readVariables(segment);
-            }
-            for (int turn = 0; turn < MOST_LANGUAGE_TOKENS && kind() >= CONSTRUCTOR && kind() <= METHOD; turn++) {
-                readSub();
-            }
-            closeSign('}');
-        }
-
         private void readClassName() {
-            if (kind() != NAME) {
-                refuseToken();
-                return;
+            if (tokens.kind() != NAME) {
+                tokens.stop(NO_SYNTAX);
+            } else if (!naming && scope.classes.size >= Scope.ALL_CLASSES) {
+                tokens.stop(NO_ROOM);
+            } else {
+                scope.beginClass();
+                if (!naming) {
+                    tokens.addTo(scope.classes, tokens.at);
+                    scope.tellClass();
+                } else if (findClass(tokens.at) != scope.ownClass) {
+                    tokens.blame(TWICE, tokens.at);
+                }
+                tokens.at++;
             }
-            if (!naming && scope.classes.size >= Scope.ALL_CLASSES) {
-                stopReading(NO_ROOM);
-                return;
-            }
-            scope.beginClass();
-            if (!naming) {
-                tokens.addTo(scope.classes, at);
-                scope.tellClass();
-            } else if (findClass(at) != scope.ownClass) {
-                blame(TWICE, at);
-            }
-            at++;
         }
 
         private int findClass(int token) {
-            return tokens.findIn(scope.classes, token, 0, scope.classes.size);
+            return tokens.findIn(scope.classes, token, 0, Scope.ALL_CLASSES);
         }
 
-        private int findSub(int owner, int token) {
-            return owner < 0 ? NONE
-                : tokens.findIn(scope.subs, token, scope.firstSubOf(owner), scope.firstSubOf(owner + 1));
-        }
-
-        private int findVariable(int token) {
-            int v = tokens.findIn(scope.variables, token, scope.classVariables, Scope.ALL_VARIABLES);
-            return v == NONE ? tokens.findIn(scope.variables, token, 0, scope.classVariables) : v;
+        private void readClassVariables() {
+            for (int turn = 0; turn < MOST_LANGUAGE_TOKENS && (tokens.kind() == STATIC || tokens.kind() == FIELD); turn++) {
+                int segment = tokens.kind() == STATIC ? STATICS : FIELDS;
+                tokens.at++;
+                readVariables(segment);
+            }
         }
 
         private void readVariables(int segment) {
             int type = readType();
             declare(segment, type);
-            for (int turn = 0; turn < MOST_LANGUAGE_TOKENS && kind() == ','; turn++) {
-                at++;
+            for (int turn = 0; turn < MOST_LANGUAGE_TOKENS && tokens.kind() == ','; turn++) {
+                tokens.at++;
                 declare(segment, type);
             }
-            expect(';');
+            tokens.expect(';');
         }
 
         private int readType() {
-            int kind = kind();
+            int kind = tokens.kind();
             int found = NONE;
             if (kind == NAME) {
-                found = findClass(at);
+                found = findClass(tokens.at);
                 if (naming && found == NONE) {
-                    blame(NO_SUCH_NAME, at);
+                    tokens.blame(NO_SUCH_NAME, tokens.at);
                 }
             } else if (kind != INT && kind != CHAR && kind != BOOLEAN) {
-                refuseToken();
+                tokens.stop(NO_SYNTAX);
                 return NONE;
             }
-            at++;
+            tokens.at++;
             return found;
         }
 
         private void declare(int segment, int type) {
-            if (kind() != NAME) {
-                refuseToken();
+            if (tokens.kind() != NAME) {
+                tokens.stop(NO_SYNTAX);
             } else if (scope.isFull(segment)) {
-                stopReading(NO_ROOM);
+                tokens.stop(NO_ROOM);
             } else {
                 int first = scope.firstRival(segment);
-                if (naming && tokens.findIn(scope.variables, at, first, Scope.ALL_VARIABLES) != NONE) {
-                    blame(TWICE, at);
+                if (naming && tokens.findIn(scope.variables, tokens.at, first, Scope.ALL_VARIABLES) != NONE) {
+                    tokens.blame(TWICE, tokens.at);
                 }
-                tokens.addTo(scope.variables, at);
+                tokens.addTo(scope.variables, tokens.at);
                 scope.addVariable(segment, type);
-                at++;
+                tokens.at++;
             }
         }
 
         private void readSub() {
-            int role = kind();
-            at++;
-            if (kind() == VOID) {
-                at++;
+            int role = tokens.kind();
+            tokens.at++;
+            if (tokens.kind() == VOID) {
+                tokens.at++;
             } else {
                 readType();
             }
             readSubName(role);
             readParameters();
             openSign('{');
-            for (int turn = 0; turn < MOST_LANGUAGE_TOKENS && kind() == VAR; turn++) {
-                at++;
+            for (int turn = 0; turn < MOST_LANGUAGE_TOKENS && tokens.kind() == VAR; turn++) {
+                tokens.at++;
                 readVariables(LOCAL);
             }
+            labels = 0;
             beginBody(role);
             readStatements();
-            emit(PUSH, CONSTANT, 0);
-            emit(LEAVE, 0, 0);
-            if (naming) {
-                program.endSub();
-            }
-            closeSign('}');
+            program.add(PUSH, CONSTANT, 0);
+            program.add(LEAVE, 0, 0);
+            program.endSub();
+            tokens.expect('}');
+            open--;
         }
 
         private void readSubName(int role) {
-            if (kind() != NAME) {
-                refuseToken();
-                return;
+            if (tokens.kind() != NAME) {
+                tokens.stop(NO_SYNTAX);
+            } else if (!naming && scope.subs.size >= Scope.ALL_SUBS) {
+                tokens.stop(NO_ROOM);
+            } else {
+                scope.beginSub(role);
+                if (!naming) {
+                    tokens.addTo(scope.subs, tokens.at);
+                    scope.tellSub();
+                } else if (findSub(scope.ownClass, tokens.at) != scope.ownSub) {
+                    tokens.blame(TWICE, tokens.at);
+                }
+                tokens.at++;
             }
-            if (!naming && scope.subs.size >= Scope.ALL_SUBS) {
-                stopReading(NO_ROOM);
-                return;
-            }
-            scope.beginSub();
-            if (!naming) {
-                tokens.addTo(scope.subs, at);
-                scope.tellSub(role);
-            } else if (findSub(scope.ownClass, at) != scope.ownSub) {
-                blame(TWICE, at);
-            }
-            at++;
+        }
+
+        private int findSub(int owner, int token) {
+            int behind = owner == NONE ? 0 : scope.firstSubOf(owner + 1);
+            return tokens.findIn(scope.subs, token, scope.firstSubOf(owner), behind);
         }
 
         private void readParameters() {
-            expect('(');
-            if (kind() != ')') {
+            tokens.expect('(');
+            if (tokens.kind() != ')') {
                 declare(ARGUMENT, readType());
-                for (int turn = 0; turn < MOST_LANGUAGE_TOKENS && kind() == ','; turn++) {
-                    at++;
+                for (int turn = 0; turn < MOST_LANGUAGE_TOKENS && tokens.kind() == ','; turn++) {
+                    tokens.at++;
                     declare(ARGUMENT, readType());
                 }
             }
-            expect(')');
+            tokens.expect(')');
             scope.tellParameters();
         }
 
         private void beginBody(int role) {
-            labels = 0;
-            if (!naming) {
-                return;
-            }
             program.beginSub(scope.ownSub);
-            emit(ENTER, scope.numberOf(scope.ownClass, scope.ownSub), scope.used[LOCAL]);
+            program.add(ENTER, scope.numberOf(scope.ownClass, scope.ownSub), scope.used[LOCAL]);
             if (role == METHOD) {
-                emit(PUSH, ARGUMENT, 0);
-                emit(POP, POINTER, 0);
+                program.add(PUSH, ARGUMENT, 0);
+                program.add(POP, POINTER, 0);
             } else if (role == CONSTRUCTOR) {
-                emit(PUSH, CONSTANT, Math.max(1, scope.used[FIELDS]));
-                emitSystemCall(MEMORY_ALLOC, 1);
-                emit(POP, POINTER, 0);
-            }
-        }
-
-        private void emit(int kind, int first, int second) {
-            if (naming) {
-                program.add(kind, first, second, 0);
-            }
-        }
-
-        private void emitSystemCall(int sub, int values) {
-            int owner = sub < MEMORY_PEEK ? 0 : sub < ARRAY_NEW ? 1 : 3;
-            if (naming) {
-                program.add(CALL, scope.numberOf(owner, sub), values, sub);
-            }
-        }
-
-        private void emitVariable(int kind, int v) {
-            if (naming && v >= 0 && v < Scope.ALL_VARIABLES) {
-                program.add(kind, scope.segments[v], scope.numbers[v], scope.cells[v]);
+                program.add(PUSH, CONSTANT, Math.max(1, scope.used[FIELDS]));
+                program.add(CALL, NUMBER_OF_ALLOC, 1);
+                program.aim(MEMORY_ALLOC);
+                program.add(POP, POINTER, 0);
             }
         }
 
         private void readStatements() {
-            for (int turn = 0; turn < MOST_LANGUAGE_TOKENS && beginsStatement(kind()); turn++) {
-                int kind = kind();
-                int place = tokens.placeOf(at);
+            for (int turn = 0; turn < MOST_LANGUAGE_TOKENS && beginsStatement(tokens.kind()); turn++) {
+                int kind = tokens.kind();
+                int place = tokens.placeOf(tokens.at);
                 program.markNext(place);
-                at++;
+                tokens.at++;
                 switch (kind) {
                     case LET:
                         readLet();
@@ -1106,35 +1077,38 @@ public final class TowerComputer {
         private void readBlock() {
             openSign('{');
             readStatements();
-            closeSign('}');
+            tokens.expect('}');
+            open--;
         }
 
         private void readLet() {
-            int v = useVariable(at);
-            expect(NAME);
-            boolean indexed = kind() == '[';
+            int v = findVariable(tokens.at);
+            checkVariable(v, tokens.at);
+            tokens.expect(NAME);
+            boolean indexed = tokens.kind() == '[';
             if (indexed) {
-                emitVariable(PUSH, v);
+                addVariable(PUSH, v);
                 readIndex();
             }
-            expect('=');
+            tokens.expect('=');
             readExpression();
-            expect(';');
+            tokens.expect(';');
             if (indexed) {
-                emit(POP, TEMP, 0);
-                emit(POP, POINTER, 1);
-                emit(PUSH, TEMP, 0);
-                emit(POP, THAT, 0);
+                program.add(POP, TEMP, 0);
+                program.add(POP, POINTER, 1);
+                program.add(PUSH, TEMP, 0);
+                program.add(POP, THAT, 0);
             } else {
-                emitVariable(POP, v);
+                addVariable(POP, v);
             }
         }
 
         private void readIndex() {
             openSign('[');
             readExpression();
-            closeSign(']');
-            emit(ADD, 0, 0);
+            tokens.expect(']');
+            open--;
+            program.add(ADD, 0, 0);
         }
 
         private int takeLabels() {
@@ -1145,61 +1119,62 @@ public final class TowerComputer {
         private void readCondition(int label) {
             openSign('(');
             readExpression();
-            closeSign(')');
-            emit(PUSH, CONSTANT, 0);
-            emit(EQ, 0, 0);
-            emit(JUMP_IF, label, 0);
+            tokens.expect(')');
+            open--;
+            program.add(PUSH, CONSTANT, 0);
+            program.add(EQ, 0, 0);
+            program.add(JUMP_IF, label, 0);
         }
 
         private void readIf() {
             int label = takeLabels();
             readCondition(label);
             readBlock();
-            if (kind() != ELSE) {
-                emit(LABEL, label, 0);
+            if (tokens.kind() != ELSE) {
+                program.add(LABEL, label, 0);
                 return;
             }
-            at++;
-            emit(GOTO, label + 1, 0);
-            emit(LABEL, label, 0);
+            tokens.at++;
+            program.add(GOTO, label + 1, 0);
+            program.add(LABEL, label, 0);
             readBlock();
-            emit(LABEL, label + 1, 0);
+            program.add(LABEL, label + 1, 0);
         }
 
         /** Marked a second time, behind its label, since each look at its condition is a step of its own. */
         private void readWhile(int place) {
             int label = takeLabels();
-            emit(LABEL, label, 0);
+            program.add(LABEL, label, 0);
             program.markNext(place);
             readCondition(label + 1);
             readBlock();
-            emit(GOTO, label, 0);
-            emit(LABEL, label + 1, 0);
+            program.add(GOTO, label, 0);
+            program.add(LABEL, label + 1, 0);
         }
 
         private void readDo() {
             readCall();
-            expect(';');
-            emit(POP, TEMP, 0);
+            tokens.expect(';');
+            program.add(POP, TEMP, 0);
         }
 
         private void readReturn() {
-            if (kind() == ';') {
-                emit(PUSH, CONSTANT, 0);
+            if (tokens.kind() == ';') {
+                program.add(PUSH, CONSTANT, 0);
             } else {
                 readExpression();
             }
-            expect(';');
-            emit(LEAVE, 0, 0);
+            tokens.expect(';');
+            program.add(LEAVE, 0, 0);
         }
 
         private void readExpression() {
             readTerm();
-            for (int turn = 0; turn < MOST_LANGUAGE_TOKENS && isOperator(kind()); turn++) {
-                int sign = kind();
-                at++;
+            for (int turn = 0; turn < MOST_LANGUAGE_TOKENS && isOperator(tokens.kind()); turn++) {
+                int sign = tokens.kind();
+                tokens.at++;
                 readTerm();
-                emitOperator(sign);
+                addOperator(sign);
             }
         }
 
@@ -1207,200 +1182,214 @@ public final class TowerComputer {
             return "+-*/&|<>=".indexOf((char) kind) >= 0;
         }
 
-        private void emitOperator(int sign) {
+        private void addOperator(int sign) {
             switch (sign) {
-                case '+':
-                    emit(ADD, 0, 0);
-                    break;
-                case '-':
-                    emit(SUB, 0, 0);
-                    break;
                 case '*':
-                    emitSystemCall(MATH_MULTIPLY, 2);
+                    program.add(CALL, NUMBER_OF_MULTIPLY, 2);
+                    program.aim(MATH_MULTIPLY);
                     break;
                 case '/':
-                    emitSystemCall(MATH_DIVIDE, 2);
+                    program.add(CALL, NUMBER_OF_DIVIDE, 2);
+                    program.aim(MATH_DIVIDE);
+                    break;
+                case '+':
+                    program.add(ADD, 0, 0);
+                    break;
+                case '-':
+                    program.add(SUB, 0, 0);
                     break;
                 case '&':
-                    emit(AND, 0, 0);
+                    program.add(AND, 0, 0);
                     break;
                 case '|':
-                    emit(OR, 0, 0);
+                    program.add(OR, 0, 0);
                     break;
                 case '<':
-                    emit(LT, 0, 0);
+                    program.add(LT, 0, 0);
                     break;
                 case '>':
-                    emit(GT, 0, 0);
+                    program.add(GT, 0, 0);
                     break;
                 default:
-                    emit(EQ, 0, 0);
+                    program.add(EQ, 0, 0);
                     break;
             }
         }
 
         private void readTerm() {
-            switch (kind()) {
-                case NUMBER:
-                    emit(PUSH, CONSTANT, tokens.valueOf(at));
-                    at++;
-                    break;
-                case STRING:
-                    readStringTerm();
-                    break;
-                case TRUE:
-                    emit(PUSH, CONSTANT, 0);
-                    emit(NOT, 0, 0);
-                    at++;
-                    break;
-                case FALSE:
-                case NULL:
-                    emit(PUSH, CONSTANT, 0);
-                    at++;
-                    break;
-                case THIS:
-                    useThis(at);
-                    at++;
-                    break;
+            switch (tokens.kind()) {
                 case NAME:
                     readNameTerm();
                     break;
                 case '(':
                     openSign('(');
                     readExpression();
-                    closeSign(')');
+                    tokens.expect(')');
+                    open--;
                     break;
                 case '-':
                 case '~':
                     readSignTerm();
                     break;
+                case STRING:
+                    readStringTerm();
+                    break;
+                case THIS:
+                    askForThis(tokens.at);
+                    program.add(PUSH, POINTER, 0);
+                    tokens.at++;
+                    break;
                 default:
-                    refuseToken();
+                    readConstantTerm(tokens.kind());
                     break;
             }
         }
 
+        private void readConstantTerm(int kind) {
+            if (kind != NUMBER && kind != TRUE && kind != FALSE && kind != NULL) {
+                tokens.stop(NO_SYNTAX);
+                return;
+            }
+            program.add(PUSH, CONSTANT, kind == NUMBER ? tokens.valueOf(tokens.at) : 0);
+            if (kind == TRUE) {
+                program.add(NOT, 0, 0);
+            }
+            tokens.at++;
+        }
+
         private void readSignTerm() {
-            int sign = kind();
+            int sign = tokens.kind();
             openSign(sign);
             readTerm();
             open--;
-            emit(sign == '-' ? NEG : NOT, 0, 0);
+            program.add(sign == '-' ? NEG : NOT, 0, 0);
         }
 
         private void readStringTerm() {
-            int bytes = tokens.valueOf(at);
+            int bytes = tokens.valueOf(tokens.at);
             stringsBytes += bytes;
             if (stringsBytes > MOST_STRINGS_BYTES) {
-                stopReading(NO_ROOM);
+                tokens.stop(NO_ROOM);
                 return;
             }
-            emit(PUSH, CONSTANT, bytes);
-            emitSystemCall(STRING_NEW, 1);
+            program.add(PUSH, CONSTANT, bytes);
+            program.add(CALL, NUMBER_OF_STRING_NEW, 1);
+            program.aim(STRING_NEW);
             for (int i = 1; i <= bytes; i++) {
-                emit(PUSH, CONSTANT, tokens.byteOf(at, i));
-                emitSystemCall(STRING_APPEND_CHAR, 2);
+                program.add(PUSH, CONSTANT, tokens.byteAt(tokens.placeOf(tokens.at) + i));
+                program.add(CALL, NUMBER_OF_APPEND_CHAR, 2);
+                program.aim(STRING_APPEND_CHAR);
             }
-            at++;
+            tokens.at++;
         }
 
         private void readNameTerm() {
-            int behind = tokens.kindOf(at + 1);
+            int behind = tokens.kindOf(tokens.at + 1);
             if (behind == '(' || behind == '.') {
                 readCall();
                 return;
             }
-            emitVariable(PUSH, useVariable(at));
-            at++;
+            int v = findVariable(tokens.at);
+            checkVariable(v, tokens.at);
+            addVariable(PUSH, v);
+            tokens.at++;
             if (behind == '[') {
                 readIndex();
-                emit(POP, POINTER, 1);
-                emit(PUSH, THAT, 0);
+                program.add(POP, POINTER, 1);
+                program.add(PUSH, THAT, 0);
             }
         }
 
-        private void useThis(int token) {
-            if (naming && scope.ownRole() == FUNCTION) {
-                blame(NO_THIS, token);
+        private void askForThis(int token) {
+            if (naming && scope.ownRole == FUNCTION) {
+                tokens.blame(NO_THIS, token);
             }
-            emit(PUSH, POINTER, 0);
         }
 
-        private int useVariable(int token) {
-            if (!naming) {
-                return NONE;
+        private int findVariable(int token) {
+            int v = tokens.findIn(scope.variables, token, scope.classVariables, Scope.ALL_VARIABLES);
+            return v == NONE ? tokens.findIn(scope.variables, token, 0, scope.classVariables) : v;
+        }
+
+        private void checkVariable(int v, int token) {
+            if (naming && v == NONE) {
+                tokens.blame(NO_SUCH_NAME, token);
+            } else if (naming && scope.ownRole == FUNCTION && scope.segments[v] == FIELDS) {
+                tokens.blame(NO_THIS, token);
             }
-            int v = findVariable(token);
-            if (v == NONE) {
-                blame(NO_SUCH_NAME, token);
-            } else if (scope.segments[v] == FIELDS && scope.ownRole() == FUNCTION) {
-                blame(NO_THIS, token);
+        }
+
+        private void addVariable(int kind, int v) {
+            if (v >= 0 && v < Scope.ALL_VARIABLES) {
+                program.add(kind, scope.segments[v], scope.numbers[v]);
+                program.aim(scope.cells[v]);
             }
-            return v;
         }
 
         private void readCall() {
-            int first = at;
-            boolean dotted = tokens.kindOf(at + 1) == '.';
-            expect(NAME);
+            int first = tokens.at;
+            boolean dotted = tokens.kindOf(tokens.at + 1) == '.';
+            tokens.expect(NAME);
             if (dotted) {
-                expect('.');
-                expect(NAME);
+                tokens.expect('.');
+                tokens.expect(NAME);
             }
-            boolean object = !dotted || findVariable(first) != NONE;
-            int owner = naming ? chooseOwner(first, dotted, object) : NONE;
+            int v = dotted ? findVariable(first) : NONE;
+            boolean object = !dotted || v != NONE;
+            if (v != NONE) {
+                checkVariable(v, first);
+                addVariable(PUSH, v);
+            } else if (!dotted) {
+                askForThis(first);
+                program.add(PUSH, POINTER, 0);
+            }
             openSign('(');
             int values = readArguments();
-            closeSign(')');
+            tokens.expect(')');
+            open--;
+            int owner = dotted ? ownerOf(v, first) : scope.ownClass;
             if (naming && owner != UNKNOWN_OWNER) {
-                emitCall(owner, dotted ? first + 2 : first, object, values);
+                int last = dotted ? first + 2 : first;
+                int sub = findSub(owner, last);
+                checkSub(sub, last, object, values);
+                program.add(CALL, scope.numberOf(owner, sub), object ? values + 1 : values);
+                program.aim(sub);
             }
         }
 
         private int readArguments() {
-            if (kind() == ')') {
+            if (tokens.kind() == ')') {
                 return 0;
             }
             int values = 1;
             readExpression();
-            for (int turn = 0; turn < MOST_LANGUAGE_TOKENS && kind() == ','; turn++) {
-                at++;
+            for (int turn = 0; turn < MOST_LANGUAGE_TOKENS && tokens.kind() == ','; turn++) {
+                tokens.at++;
                 readExpression();
                 values++;
             }
             return values;
         }
 
-        /** The class in which the sub is looked for; if an object is meant, its value is pushed. */
-        private int chooseOwner(int first, boolean dotted, boolean object) {
-            if (!dotted) {
-                useThis(first);
-                return scope.ownClass;
+        private int ownerOf(int v, int first) {
+            if (v != NONE) {
+                return scope.types[v];
             }
-            if (object) {
-                int v = useVariable(first);
-                emitVariable(PUSH, v);
-                return v == NONE ? UNKNOWN_OWNER : scope.types[v];
-            }
-            int owner = findClass(first);
-            if (owner == NONE) {
-                blame(NO_SUCH_NAME, first);
+            int owner = tokens.findIn(scope.classes, first, 0, Scope.ALL_CLASSES);
+            if (naming && owner == NONE) {
+                tokens.blame(NO_SUCH_NAME, first);
                 return UNKNOWN_OWNER;
             }
             return owner;
         }
 
-        private void emitCall(int owner, int last, boolean object, int values) {
-            int sub = findSub(owner, last);
-            if (sub == NONE) {
-                blame(NO_SUCH_NAME, last);
-                return;
-            }
+        private void checkSub(int sub, int last, boolean object, int values) {
             boolean method = scope.roleOf(sub) == METHOD;
-            if (method != object || scope.parametersOf(sub) != values) {
-                blame(WRONG_CALL, last);
+            if (sub == NONE) {
+                tokens.blame(NO_SUCH_NAME, last);
+            } else if (method != object || scope.parametersOf(sub) != values) {
+                tokens.blame(WRONG_CALL, last);
             }
-            program.add(CALL, scope.numberOf(owner, sub), object ? values + 1 : values, sub);
         }
     }
 
@@ -1416,13 +1405,16 @@ public final class TowerComputer {
         private final int[] marks = new int[ROOM];
         private final int[] starts = new int[Scope.ALL_SUBS];
         private final int[] labelTargets = new int[MOST_LANGUAGE_TOKENS];
+        private boolean recording;
         private int size;
         private int subStart;
         private int mainStart;
         private int firstPlace;
         private int pendingMark;
 
-        void begin(int place) {
+        /** If it is not recording, nothing is added. */
+        void begin(boolean record, int place) {
+            recording = record;
             size = 0;
             mainStart = 0;
             firstPlace = place;
@@ -1433,15 +1425,22 @@ public final class TowerComputer {
             pendingMark = place;
         }
 
-        void add(int kind, int first, int second, int target) {
-            if (size < ROOM) {
+        void add(int kind, int first, int second) {
+            if (recording && size < ROOM) {
                 kinds[size] = kind;
                 firsts[size] = first;
                 seconds[size] = second;
-                targets[size] = target;
+                targets[size] = 0;
                 marks[size] = pendingMark;
                 pendingMark = NOWHERE;
                 size++;
+            }
+        }
+
+        /** Sets the target of the last command. */
+        void aim(int target) {
+            if (recording && size > 0) {
+                targets[size - 1] = target;
             }
         }
 
@@ -1455,6 +1454,9 @@ public final class TowerComputer {
 
         /** A jump goes behind its label, so that a while that is asked again does not begin again. */
         void endSub() {
+            if (!recording) {
+                return;
+            }
             for (int i = subStart; i < size; i++) {
                 if (kinds[i] == LABEL && firsts[i] < labelTargets.length) {
                     labelTargets[firsts[i]] = i + 1;
@@ -1579,6 +1581,15 @@ public final class TowerComputer {
             return points;
         }
 
+        int drawPoint(int x, int y, boolean clearing) {
+            int i = HEAP_WORDS + 4 * y + x / 16;
+            if (i >= HEAP_WORDS && i < words.length) {
+                int bit = 1 << x % 16;
+                words[i] = (short) (clearing ? words[i] & ~bit : words[i] | bit);
+            }
+            return 0;
+        }
+
         int clearScreen() {
             for (int i = HEAP_WORDS; i < words.length; i++) {
                 words[i] = 0;
@@ -1699,115 +1710,50 @@ public final class TowerComputer {
             return packed;
         }
 
+        /** Subs that give nothing give 0; so does one that fails, which is looked at behind it. */
         int perform(int sub, int a, int b, int c, int d) {
-            if (sub < ARRAY_NEW) {
-                return performMath(sub, a, b);
-            }
-            if (sub < OUTPUT_PRINT_CHAR) {
-                return performString(sub, a, b, c);
-            }
-            return performDevice(sub, a, b, c, d);
-        }
-
-        private int performMath(int sub, int a, int b) {
             switch (sub) {
-                case MATH_ABS:
-                    return (short) Math.abs(a);
-                case MATH_MIN:
-                    return Math.min(a, b);
-                case MATH_MAX:
-                    return Math.max(a, b);
-                case MATH_MULTIPLY:
-                    return (short) (a * b);
-                case MATH_DIVIDE:
-                    return b == 0 ? memory.fail(3) : (short) (a / b);
-                case MATH_SQRT:
-                    return a < 0 ? memory.fail(4) : root(a);
-                case MEMORY_PEEK:
-                    return memory.read(a);
-                case MEMORY_POKE:
-                    return memory.write(a, b);
-                case MEMORY_ALLOC:
-                    return memory.allocate(a);
-                case MEMORY_DE_ALLOC:
-                    return memory.release(a);
-                default:
-                    return 0;
-            }
-        }
-
-        private int performString(int sub, int a, int b, int c) {
-            switch (sub) {
-                case ARRAY_NEW:
-                    return a < 1 ? memory.fail(2) : memory.allocate(a);
-                case ARRAY_DISPOSE:
-                case STRING_DISPOSE:
-                    return memory.release(a);
-                case STRING_NEW:
-                    return newString(a);
-                case STRING_LENGTH:
-                    return memory.read(a + 1);
-                case STRING_CHAR_AT:
-                    return charAt(a, b);
-                case STRING_SET_CHAR_AT:
-                    return setCharAt(a, b, c);
-                case STRING_APPEND_CHAR:
-                    return appendChar(a, b);
-                case STRING_ERASE_LAST_CHAR:
-                    return eraseLastChar(a);
-                case STRING_INT_VALUE:
-                    return intValue(a);
-                case STRING_SET_INT:
-                    return setInt(a, b);
-                case STRING_NEW_LINE:
-                    return '\n';
-                case STRING_DOUBLE_QUOTE:
-                    return '"';
-                case STRING_BACK_SPACE:
-                    return '\b';
-                default:
-                    return 0;
-            }
-        }
-
-        private int performDevice(int sub, int a, int b, int c, int d) {
-            switch (sub) {
-                case OUTPUT_PRINT_CHAR:
-                    return printChar(a);
-                case OUTPUT_PRINT_STRING:
-                    return printString(a);
-                case OUTPUT_PRINT_INT:
-                    return printInt(a);
-                case OUTPUT_PRINTLN:
-                    return printChar('\n');
-                case KEYBOARD_KEY_PRESSED:
-                    return nextKey();
-                case KEYBOARD_READ_CHAR:
-                    return readChar();
-                case KEYBOARD_READ_LINE:
-                    return readLine(a);
-                case SCREEN_CLEAR:
-                    return memory.clearScreen();
-                case SCREEN_SET_COLOR:
-                    clearing = a == 0;
-                    return 0;
-                case SCREEN_DRAW_PIXEL:
-                    return isPoint(a, b) ? draw(a, b) : memory.fail(7);
-                case SCREEN_DRAW_LINE:
-                    return isPoint(a, b) && isPoint(c, d) ? drawLine(a, b, c, d) : memory.fail(8);
-                case SCREEN_DRAW_RECTANGLE:
-                    return drawRectangle(a, b, c, d);
-                case SCREEN_DRAW_CIRCLE:
-                    return drawCircle(a, b, c);
-                case SYS_HALT:
-                    halted = true;
-                    return 0;
-                case SYS_ERROR:
-                    return memory.fail(a);
-                case SYS_WAIT:
-                    return a < 1 ? memory.fail(1) : 0;
-                default:
-                    return 0;
+                case MATH_ABS: return (short) Math.abs(a);
+                case MATH_MIN: return Math.min(a, b);
+                case MATH_MAX: return Math.max(a, b);
+                case MATH_MULTIPLY: return (short) (a * b);
+                case MATH_DIVIDE: return b == 0 ? memory.fail(3) : (short) (a / b);
+                case MATH_SQRT: return a < 0 ? memory.fail(4) : root(a);
+                case MEMORY_PEEK: return memory.read(a);
+                case MEMORY_POKE: return memory.write(a, b);
+                case MEMORY_ALLOC: return memory.allocate(a);
+                case MEMORY_DE_ALLOC: return memory.release(a);
+                case ARRAY_NEW: return a < 1 ? memory.fail(2) : memory.allocate(a);
+                case ARRAY_DISPOSE: return memory.release(a);
+                case STRING_NEW: return newString(a);
+                case STRING_LENGTH: return memory.read(a + 1);
+                case STRING_CHAR_AT: return charAt(a, b);
+                case STRING_SET_CHAR_AT: return setCharAt(a, b, c);
+                case STRING_APPEND_CHAR: return appendChar(a, b);
+                case STRING_ERASE_LAST_CHAR: return eraseLastChar(a);
+                case STRING_INT_VALUE: return intValue(a);
+                case STRING_SET_INT: return setInt(a, b);
+                case STRING_DISPOSE: return memory.release(a);
+                case STRING_NEW_LINE: return '\n';
+                case STRING_DOUBLE_QUOTE: return '"';
+                case STRING_BACK_SPACE: return '\b';
+                case OUTPUT_PRINT_CHAR: return printChar(a);
+                case OUTPUT_PRINT_STRING: return printString(a);
+                case OUTPUT_PRINT_INT: return printInt(a);
+                case OUTPUT_PRINTLN: return printChar('\n');
+                case KEYBOARD_KEY_PRESSED: return nextKey();
+                case KEYBOARD_READ_CHAR: return readChar();
+                case KEYBOARD_READ_LINE: return readLine(a);
+                case SCREEN_CLEAR: return memory.clearScreen();
+                case SCREEN_SET_COLOR: return setColor(a);
+                case SCREEN_DRAW_PIXEL: return isPoint(a, b) ? memory.drawPoint(a, b, clearing) : memory.fail(7);
+                case SCREEN_DRAW_LINE: return drawLine(a, b, c, d);
+                case SCREEN_DRAW_RECTANGLE: return drawRectangle(a, b, c, d);
+                case SCREEN_DRAW_CIRCLE: return drawCircle(a, b, c);
+                case SYS_HALT: return halt();
+                case SYS_ERROR: return memory.fail(a);
+                case SYS_WAIT: return a < 1 ? memory.fail(1) : 0;
+                default: return 0;
             }
         }
 
@@ -1905,7 +1851,7 @@ public final class TowerComputer {
         private int printString(int s) {
             int length = memory.read(s + 1);
             for (int j = 0; j < length && !memory.failed; j++) {
-                int c = charAt(s, j);
+                int c = memory.read(s + 2 + j);
                 if (!memory.failed) {
                     printChar(c);
                 }
@@ -1956,21 +1902,27 @@ public final class TowerComputer {
             return x >= 0 && x < COLUMNS && y >= 0 && y < Memory.ROWS;
         }
 
-        private int draw(int x, int y) {
-            int address = Memory.SCREEN + 4 * y + x / 16;
-            int bit = 1 << x % 16;
-            int word = memory.read(address);
-            return memory.write(address, clearing ? word & ~bit : word | bit);
+        private int setColor(int b) {
+            clearing = b == 0;
+            return 0;
+        }
+
+        private int halt() {
+            halted = true;
+            return 0;
         }
 
         private int drawLine(int x, int y, int u, int v) {
+            if (!isPoint(x, y) || !isPoint(u, v)) {
+                return memory.fail(8);
+            }
             int dx = Math.abs(u - x);
             int dy = Math.abs(v - y);
             int a = 0;
             int b = 0;
             int d = dy == 0 ? -1 : 0;
             for (int turn = 0; turn <= dx + dy && a <= dx && b <= dy; turn++) {
-                draw(u < x ? x - a : x + a, v < y ? y - b : y + b);
+                memory.drawPoint(u < x ? x - a : x + a, v < y ? y - b : y + b, clearing);
                 if (d < 0) {
                     a++;
                     d += dy;
@@ -1994,7 +1946,7 @@ public final class TowerComputer {
 
         private void drawSpan(int from, int to, int y) {
             for (int x = from; x <= to; x++) {
-                draw(x, y);
+                memory.drawPoint(x, y, clearing);
             }
         }
 
@@ -2064,7 +2016,13 @@ public final class TowerComputer {
             statementPlace = program.firstPlace;
             enter(program.mainStart, 0);
             for (int turn = 0; turn < MOST_TURNS && end == RUNNING; turn++) {
-                doCommand();
+                int i = next;
+                if (i < 0 || i >= program.size) {
+                    end = DONE;
+                } else if (mayBegin(program.marks[i])) {
+                    next = i + 1;
+                    doCommand(program.kinds[i], program.firsts[i], program.seconds[i], program.targets[i]);
+                }
             }
             library.endRun();
             return end;
@@ -2079,57 +2037,54 @@ public final class TowerComputer {
             return true;
         }
 
-        private void doCommand() {
-            int i = next;
-            if (i < 0 || i >= program.size) {
-                end = DONE;
-                return;
+        private boolean mayBegin(int mark) {
+            if (mark == NOWHERE) {
+                return true;
             }
-            if (program.marks[i] != NOWHERE) {
-                statementPlace = program.marks[i];
-                if (!spendStep()) {
-                    return;
-                }
-            }
-            next = i + 1;
-            int kind = program.kinds[i];
-            if (kind >= ADD && kind <= GT) {
-                calculate(kind);
-            } else {
-                moveOrJump(kind, i);
-            }
-            if (memory.failed) {
-                end = ERROR;
-            }
+            statementPlace = mark;
+            return spendStep();
         }
 
-        private void moveOrJump(int kind, int i) {
+        private void doCommand(int kind, int first, int second, int target) {
             switch (kind) {
                 case PUSH:
-                    push(valueOf(program.firsts[i], program.seconds[i], program.targets[i]));
+                    push(valueOf(first, second, target));
                     break;
                 case POP:
-                    assign(program.firsts[i], program.seconds[i], program.targets[i]);
+                    assign(first, second, target, pop());
+                    break;
+                case LABEL:
                     break;
                 case GOTO:
-                    next = program.targets[i];
+                    next = target;
                     break;
                 case JUMP_IF:
-                    if (pop() != 0) {
-                        next = program.targets[i];
-                    }
+                    next = pop() != 0 ? target : next;
                     break;
                 case ENTER:
-                    makeLocals(program.seconds[i]);
+                    makeLocals(second);
                     break;
                 case CALL:
-                    call(program.firsts[i], program.seconds[i], program.targets[i]);
+                    if (first >= FIRST_TEXT_SUB) {
+                        enter(target, second);
+                    } else {
+                        int base = top - second;
+                        int result = library.perform(target, at(base), at(base + 1), at(base + 2), at(base + 3));
+                        top = Math.max(0, base);
+                        push(result);
+                    }
                     break;
                 case LEAVE:
                     leave();
                     break;
                 default:
+                    calculate(kind, pop());
                     break;
+            }
+            if (memory.failed) {
+                end = ERROR;
+            } else if (library.halted) {
+                end = DONE;
             }
         }
 
@@ -2147,7 +2102,7 @@ public final class TowerComputer {
             return stack[top];
         }
 
-        private int valueAt(int index) {
+        private int at(int index) {
             return index >= 0 && index < STACK_ROOM ? stack[index] : 0;
         }
 
@@ -2162,9 +2117,9 @@ public final class TowerComputer {
                 case CONSTANT:
                     return number;
                 case ARGUMENT:
-                    return valueAt(arguments + number);
+                    return at(arguments + number);
                 case LOCAL:
-                    return valueAt(locals + number);
+                    return at(locals + number);
                 case STATICS:
                     return cell >= 0 && cell < statics.length ? statics[cell] : 0;
                 case FIELDS:
@@ -2178,8 +2133,7 @@ public final class TowerComputer {
             }
         }
 
-        private void assign(int segment, int number, int cell) {
-            int value = pop();
+        private void assign(int segment, int number, int cell, int value) {
             switch (segment) {
                 case ARGUMENT:
                     putAt(arguments + number, value);
@@ -2211,8 +2165,7 @@ public final class TowerComputer {
             }
         }
 
-        private void calculate(int kind) {
-            int right = pop();
+        private void calculate(int kind, int right) {
             if (kind == NEG) {
                 push((short) -right);
                 return;
@@ -2244,20 +2197,6 @@ public final class TowerComputer {
                 default:
                     push(left > right ? -1 : 0);
                     break;
-            }
-        }
-
-        private void call(int sub, int values, int target) {
-            if (sub >= FIRST_TEXT_SUB) {
-                enter(target, values);
-                return;
-            }
-            int base = Math.max(0, top - values);
-            int result = library.perform(target, valueAt(base), valueAt(base + 1), valueAt(base + 2), valueAt(base + 3));
-            top = base;
-            push(result);
-            if (library.halted) {
-                end = DONE;
             }
         }
 
@@ -2634,9 +2573,6 @@ public final class TowerComputer {
         private final Names inner = new Names(MOST_INNER, "");
         private int parts;
         private int links;
-        private int at;
-        private int fault;
-        private int faultPlace;
 
         ChipReader(Scanner tokens) {
             this.tokens = tokens;
@@ -2646,142 +2582,113 @@ public final class TowerComputer {
             firstOuts[1] = 4;
         }
 
-        int read() {
+        void read() {
             chips.keep(GATES);
             pins.keep(GATE_PINS);
             parts = 0;
             links = 0;
-            at = 0;
-            fault = 0;
-            faultPlace = NOWHERE;
+            tokens.rewind();
             readChip();
-            for (int turn = 0; turn < MOST_CHIP_TOKENS && kind() == CHIP; turn++) {
+            for (int turn = 0; turn < MOST_CHIP_TOKENS && tokens.kind() == CHIP; turn++) {
                 readChip();
             }
-            if (kind() != END) {
-                refuseToken();
-            }
-            return fault;
-        }
-
-        private int kind() {
-            return tokens.kindOf(at);
-        }
-
-        private void stopReading(int number) {
-            if (fault == 0) {
-                fault = number;
-                faultPlace = tokens.placeOf(at);
-            }
-            at = tokens.size;
-        }
-
-        private void refuseToken() {
-            stopReading(kind() == EXCESS ? NO_ROOM : NO_SYNTAX);
-        }
-
-        private void expect(int kind) {
-            if (kind() == kind) {
-                at++;
-            } else {
-                refuseToken();
-            }
+            tokens.expect(END);
         }
 
         private void readChip() {
-            expect(CHIP);
+            tokens.expect(CHIP);
             beginChip();
-            expect('{');
+            tokens.expect('{');
             int chip = chips.size - 1;
-            expect(IN);
+            tokens.expect(IN);
             readPins(chip);
             firstOuts[chip] = pins.size;
-            expect(OUT);
+            tokens.expect(OUT);
             readPins(chip);
             firstPins[chip + 1] = pins.size;
-            expect(PARTS);
-            expect(':');
-            for (int turn = 0; turn < MOST_CHIP_TOKENS && kind() == NAME; turn++) {
+            tokens.expect(PARTS);
+            tokens.expect(':');
+            for (int turn = 0; turn < MOST_CHIP_TOKENS && tokens.kind() == NAME; turn++) {
                 readPart(chip);
             }
             firstParts[chip + 1] = parts;
-            expect('}');
+            tokens.expect('}');
         }
 
         private void beginChip() {
-            if (kind() != NAME) {
-                refuseToken();
+            if (tokens.kind() != NAME) {
+                tokens.stop(NO_SYNTAX);
             } else if (chips.size >= ALL_CHIPS) {
-                stopReading(NO_ROOM);
+                tokens.stop(NO_ROOM);
             } else {
-                chipTokens[chips.size] = at;
+                chipTokens[chips.size] = tokens.at;
                 firstPins[chips.size] = pins.size;
                 firstParts[chips.size] = parts;
-                tokens.addTo(chips, at);
+                tokens.addTo(chips, tokens.at);
                 inner.keep(0);
-                at++;
+                tokens.at++;
             }
         }
 
         private void readPins(int chip) {
             readPin(chip);
-            for (int turn = 0; turn < MOST_CHIP_TOKENS && kind() == ','; turn++) {
-                at++;
+            for (int turn = 0; turn < MOST_CHIP_TOKENS && tokens.kind() == ','; turn++) {
+                tokens.at++;
                 readPin(chip);
             }
-            expect(';');
+            tokens.expect(';');
         }
 
         private void readPin(int chip) {
-            if (kind() != NAME) {
-                refuseToken();
+            if (tokens.kind() != NAME) {
+                tokens.stop(NO_SYNTAX);
             } else if (pins.size - firstPins[chip] >= MOST_PINS || pins.size >= ALL_PINS) {
-                stopReading(NO_ROOM);
+                tokens.stop(NO_ROOM);
             } else {
-                pinTokens[pins.size] = at;
-                tokens.addTo(pins, at);
-                at++;
-                if (kind() == '[') {
-                    at++;
-                    expect(NUMBER);
-                    expect(']');
+                pinTokens[pins.size] = tokens.at;
+                tokens.addTo(pins, tokens.at);
+                tokens.at++;
+                if (tokens.kind() == '[') {
+                    tokens.at++;
+                    tokens.expect(NUMBER);
+                    tokens.expect(']');
                 }
             }
         }
 
         private void readPart(int chip) {
             if (parts - firstParts[chip] >= MOST_PARTS || parts >= ALL_PARTS) {
-                stopReading(NO_ROOM);
+                tokens.stop(NO_ROOM);
                 return;
             }
-            partTokens[parts] = at;
+            partTokens[parts] = tokens.at;
             firstLinks[parts] = links;
             parts++;
-            at++;
-            expect('(');
+            tokens.at++;
+            tokens.expect('(');
             readLink(chip);
-            for (int turn = 0; turn < MOST_CHIP_TOKENS && kind() == ','; turn++) {
-                at++;
+            for (int turn = 0; turn < MOST_CHIP_TOKENS && tokens.kind() == ','; turn++) {
+                tokens.at++;
                 readLink(chip);
             }
             firstLinks[parts] = links;
-            expect(')');
-            expect(';');
+            tokens.expect(')');
+            tokens.expect(';');
         }
 
         private void readLink(int chip) {
-            int left = at;
-            expect(NAME);
+            int left = tokens.at;
+            tokens.expect(NAME);
             readRange();
-            expect('=');
-            int right = at;
-            if (kind() == NAME) {
+            tokens.expect('=');
+            int right = tokens.at;
+            if (tokens.kind() == NAME) {
                 noteInner(chip);
                 readRange();
-            } else if (kind() == ALL_ONES || kind() == ALL_ZEROS) {
-                at++;
+            } else if (tokens.kind() == ALL_ONES || tokens.kind() == ALL_ZEROS) {
+                tokens.at++;
             } else {
-                refuseToken();
+                tokens.stop(NO_SYNTAX);
             }
             if (links < ALL_LINKS) {
                 lefts[links] = left;
@@ -2791,29 +2698,29 @@ public final class TowerComputer {
         }
 
         private void noteInner(int chip) {
-            boolean known = tokens.findIn(pins, at, firstPins[chip], ALL_PINS) != NONE
-                || tokens.findIn(inner, at, 0, MOST_INNER) != NONE;
+            boolean known = tokens.findIn(pins, tokens.at, firstPins[chip], ALL_PINS) != NONE
+                || tokens.findIn(inner, tokens.at, 0, MOST_INNER) != NONE;
             if (!known && inner.size >= MOST_INNER) {
-                stopReading(NO_ROOM);
+                tokens.stop(NO_ROOM);
                 return;
             }
             if (!known) {
-                tokens.addTo(inner, at);
+                tokens.addTo(inner, tokens.at);
             }
-            at++;
+            tokens.at++;
         }
 
         private void readRange() {
-            if (kind() != '[') {
+            if (tokens.kind() != '[') {
                 return;
             }
-            at++;
-            expect(NUMBER);
-            if (kind() == '.') {
-                at++;
-                expect(NUMBER);
+            tokens.at++;
+            tokens.expect(NUMBER);
+            if (tokens.kind() == '.') {
+                tokens.at++;
+                tokens.expect(NUMBER);
             }
-            expect(']');
+            tokens.expect(']');
         }
     }
 
@@ -2844,8 +2751,6 @@ public final class TowerComputer {
         private final int[] linkedOuts = new int[ChipReader.MOST_PINS];
         /** Of each chip, as bits, the chips that are in it at any depth. */
         private final int[] within = new int[ChipReader.ALL_CHIPS];
-        private int fault;
-        private int faultPlace;
 
         ChipChecker(Scanner tokens, ChipReader text) {
             this.tokens = tokens;
@@ -2858,12 +2763,10 @@ public final class TowerComputer {
             ownBits[1] = 2;
         }
 
-        int check() {
-            fault = 0;
-            faultPlace = NOWHERE;
+        void check() {
             for (int chip = ChipReader.GATES; chip < text.chips.size; chip++) {
                 if (tokens.findIn(text.chips, text.chipTokens[chip], 0, chip) != NONE) {
-                    blame(TWICE, text.chipTokens[chip]);
+                    tokens.blame(TWICE, text.chipTokens[chip]);
                 }
                 checkPins(chip);
             }
@@ -2872,17 +2775,8 @@ public final class TowerComputer {
                 gatherInner(chip);
                 checkParts(chip);
             }
-            if (fault == 0) {
+            if (tokens.fault == 0) {
                 findRings();
-            }
-            return fault;
-        }
-
-        private void blame(int number, int token) {
-            int place = tokens.placeOf(token);
-            if (fault == 0 || place < faultPlace || place == faultPlace && number < fault) {
-                fault = number;
-                faultPlace = place;
             }
         }
 
@@ -2892,14 +2786,14 @@ public final class TowerComputer {
             for (int pin = first; pin < text.firstPins[chip + 1]; pin++) {
                 int token = text.pinTokens[pin];
                 if (tokens.findIn(text.pins, token, first, pin) != NONE) {
-                    blame(TWICE, token);
+                    tokens.blame(TWICE, token);
                 }
                 widths[pin] = 1;
                 if (tokens.kindOf(token + 1) == '[') {
                     widths[pin] = tokens.valueOf(token + 2);
                 }
                 if (widths[pin] < 1 || widths[pin] > MOST_WIDTH) {
-                    blame(WRONG_WIDTH, token + 2);
+                    tokens.blame(WRONG_WIDTH, token + 2);
                     widths[pin] = 1;
                 }
                 offsets[pin] = bits;
@@ -2912,7 +2806,7 @@ public final class TowerComputer {
             for (int part = text.firstParts[chip]; part < text.firstParts[chip + 1]; part++) {
                 partChips[part] = tokens.findIn(text.chips, text.partTokens[part], 0, ChipReader.ALL_CHIPS);
                 if (partChips[part] == NONE) {
-                    blame(NO_SUCH_NAME, text.partTokens[part]);
+                    tokens.blame(NO_SUCH_NAME, text.partTokens[part]);
                 }
             }
         }
@@ -2949,7 +2843,7 @@ public final class TowerComputer {
             tokens.addTo(inner, right);
             innerLinks[i] = link;
             innerOffsets[i] = ownBits[chip];
-            innerWidths[i] = isRangeWithin(left, widths[pin]) ? rangeWidth(left, widths[pin]) : NONE;
+            innerWidths[i] = rangeWidth(lowBit(left), highBit(left, widths[pin]), widths[pin]);
             ownBits[chip] += Math.max(0, innerWidths[i]);
         }
 
@@ -2957,31 +2851,24 @@ public final class TowerComputer {
             return tokens.findIn(inner, token, 0, ChipReader.MOST_INNER);
         }
 
-        private boolean hasRange(int token) {
-            return tokens.kindOf(token + 1) == '[';
-        }
-
         private int lowBit(int token) {
-            return hasRange(token) ? tokens.valueOf(token + 2) : 0;
+            return tokens.kindOf(token + 1) == '[' ? tokens.valueOf(token + 2) : 0;
         }
 
         private int highBit(int token, int width) {
-            if (!hasRange(token)) {
+            if (tokens.kindOf(token + 1) != '[') {
                 return width - 1;
             }
             return tokens.valueOf(tokens.kindOf(token + 3) == '.' ? token + 4 : token + 2);
         }
 
-        private boolean isRangeWithin(int token, int width) {
-            return lowBit(token) <= highBit(token, width) && highBit(token, width) < width;
+        /** How many bits a range has; NONE if it is faulty. */
+        private static int rangeWidth(int low, int high, int width) {
+            return low <= high && high < width ? high - low + 1 : NONE;
         }
 
-        private int rangeWidth(int token, int width) {
-            return highBit(token, width) - lowBit(token) + 1;
-        }
-
-        private int rangeMask(int token, int width) {
-            return (1 << highBit(token, width) + 1) - (1 << lowBit(token));
+        private static int rangeMask(int low, int width) {
+            return (1 << width) - 1 << low;
         }
 
         private void checkParts(int chip) {
@@ -3000,20 +2887,19 @@ public final class TowerComputer {
             int left = text.lefts[link];
             int pin = findPin(partChip, left);
             if (pin == NONE) {
-                blame(NO_SUCH_NAME, left);
+                tokens.blame(NO_SUCH_NAME, left);
                 return;
             }
-            linkPins[link] = pin;
-            linkLows[link] = lowBit(left);
-            linkWidths[link] = NONE;
+            int low = lowBit(left);
+            int width = rangeWidth(low, highBit(left, widths[pin]), widths[pin]);
             boolean out = isOut(partChip, pin);
-            if (!isRangeWithin(left, widths[pin])) {
-                blame(WRONG_WIDTH, left + 1);
-            } else {
-                linkWidths[link] = rangeWidth(left, widths[pin]);
-                if (!out && isLinked(linkedIns, pin - text.firstPins[partChip], rangeMask(left, widths[pin]))) {
-                    blame(TWICE, left);
-                }
+            linkPins[link] = pin;
+            linkLows[link] = low;
+            linkWidths[link] = width;
+            if (width == NONE) {
+                tokens.blame(WRONG_WIDTH, left + 1);
+            } else if (!out && isLinked(linkedIns, pin - text.firstPins[partChip], rangeMask(low, width))) {
+                tokens.blame(TWICE, left);
             }
             checkRight(chip, link, out);
         }
@@ -3033,7 +2919,7 @@ public final class TowerComputer {
             if (tokens.kindOf(right) != NAME) {
                 linkTargets[link] = tokens.kindOf(right) == ALL_ONES ? ONES : ZEROS;
                 if (out) {
-                    blame(NO_SUCH_NAME, right);
+                    tokens.blame(NO_SUCH_NAME, right);
                 }
                 return;
             }
@@ -3041,7 +2927,7 @@ public final class TowerComputer {
             if (pin == NONE) {
                 checkInner(link, out);
             } else if (isOut(chip, pin) != out) {
-                blame(NO_SUCH_NAME, right);
+                tokens.blame(NO_SUCH_NAME, right);
             } else {
                 checkOwnPin(chip, link, pin);
             }
@@ -3051,15 +2937,15 @@ public final class TowerComputer {
             int right = text.rights[link];
             int i = findInner(right);
             if (i == NONE) {
-                blame(NO_SUCH_NAME, right);
+                tokens.blame(NO_SUCH_NAME, right);
                 return;
             }
             linkTargets[link] = innerOffsets[i];
             if (out && innerLinks[i] != link) {
-                blame(TWICE, right);
+                tokens.blame(TWICE, right);
             }
-            if (hasRange(right)) {
-                blame(WRONG_WIDTH, right + 1);
+            if (tokens.kindOf(right + 1) == '[') {
+                tokens.blame(WRONG_WIDTH, right + 1);
             } else if (!out) {
                 compareWidths(link, innerWidths[i]);
             }
@@ -3067,21 +2953,23 @@ public final class TowerComputer {
 
         private void checkOwnPin(int chip, int link, int pin) {
             int right = text.rights[link];
-            linkTargets[link] = offsets[pin] + lowBit(right);
-            if (!isRangeWithin(right, widths[pin])) {
-                blame(WRONG_WIDTH, right + 1);
+            int low = lowBit(right);
+            int width = rangeWidth(low, highBit(right, widths[pin]), widths[pin]);
+            linkTargets[link] = offsets[pin] + low;
+            if (width == NONE) {
+                tokens.blame(WRONG_WIDTH, right + 1);
                 return;
             }
             int index = pin - text.firstPins[chip];
-            if (isOut(chip, pin) && isLinked(linkedOuts, index, rangeMask(right, widths[pin]))) {
-                blame(TWICE, right);
+            if (isOut(chip, pin) && isLinked(linkedOuts, index, rangeMask(low, width))) {
+                tokens.blame(TWICE, right);
             }
-            compareWidths(link, rangeWidth(right, widths[pin]));
+            compareWidths(link, width);
         }
 
         private void compareWidths(int link, int width) {
             if (width != NONE && linkWidths[link] != NONE && width != linkWidths[link]) {
-                blame(WRONG_WIDTH, text.rights[link]);
+                tokens.blame(WRONG_WIDTH, text.rights[link]);
             }
         }
 
@@ -3102,7 +2990,7 @@ public final class TowerComputer {
             }
             for (int chip = 0; chip < count; chip++) {
                 if ((within[chip] >> chip & 1) != 0) {
-                    blame(RING, text.chipTokens[chip]);
+                    tokens.blame(RING, text.chipTokens[chip]);
                 }
             }
         }
@@ -3151,22 +3039,20 @@ public final class TowerComputer {
             present = false;
         }
 
-        int build() {
+        /** False if the last chip has too many gates or bits, or a ring of Nands. */
+        boolean build() {
             countGatesAndBits();
             int board = lastChip();
             if (gateCounts[board] > MOST_GATES || bitCounts[board] > MOST_BITS) {
-                return RING;
+                return false;
             }
             wire(board);
-            if (!sortNands()) {
-                return RING;
-            }
+            present = sortNands();
             Arrays.fill(signals, 0);
             signals[ONE] = 1;
             ticks = 0;
-            present = true;
             settle();
-            return 0;
+            return present;
         }
 
         private int lastChip() {
