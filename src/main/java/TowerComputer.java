@@ -48,8 +48,9 @@ public final class TowerComputer {
     private static final int ELSE = 274;
     private static final int WHILE = 275;
     private static final int RETURN = 276;
-    private static final String LANGUAGE_KEYWORDS =
-        "class constructor function method field static var int char boolean void true false null this let do if else while return";
+    private static final String TELLING_KEYWORDS =
+        "class constructor function method field static var int char boolean void";
+    private static final String DOING_KEYWORDS = "true false null this let do if else while return";
 
     private static final int CHIP = 300;
     private static final int IN = 301;
@@ -108,11 +109,16 @@ public final class TowerComputer {
     private static final int SYSTEM_SUBS = 40;
     private static final int FIRST_TEXT_SUB = 100 * SYSTEM_CLASSES;
     private static final String SYSTEM_CLASS_NAMES = "Math Memory Array String Output Keyboard Screen Sys";
-    private static final String MATH_AND_MEMORY_SUBS = "abs min max multiply divide sqrt peek poke alloc deAlloc";
-    private static final String ARRAY_AND_STRING_SUBS =
-        "new dispose new length charAt setCharAt appendChar eraseLastChar intValue setInt dispose newLine doubleQuote backSpace";
-    private static final String DEVICE_SUBS =
-        "printChar printString printInt println keyPressed readChar readLine clearScreen setColor drawPixel drawLine drawRectangle drawCircle halt error wait";
+    private static final String MATH_SUBS = "abs min max multiply divide sqrt";
+    private static final String MEMORY_SUBS = "peek poke alloc deAlloc";
+    private static final String ARRAY_SUBS = "new dispose";
+    private static final String STRING_METHODS =
+        "new length charAt setCharAt appendChar eraseLastChar intValue setInt dispose";
+    private static final String STRING_FUNCTIONS = "newLine doubleQuote backSpace";
+    private static final String OUTPUT_SUBS = "printChar printString printInt println";
+    private static final String KEYBOARD_SUBS = "keyPressed readChar readLine";
+    private static final String SCREEN_SUBS = "clearScreen setColor drawPixel drawLine drawRectangle drawCircle";
+    private static final String SYS_SUBS = "halt error wait";
     private static final int[] SYSTEM_FIRST_SUBS = {0, 6, 10, 12, 24, 28, 31, 37, 40};
     private static final int[] SYSTEM_PARAMETERS = {
         1, 2, 2, 2, 2, 1,
@@ -458,7 +464,7 @@ public final class TowerComputer {
         private static final int MOST_STRING_BYTES = 60;
         private static final String LANGUAGE_SIGNS = "{}[]().,;+-*/&|<>=~";
         private static final String CHIP_SIGNS = "{}()[],;:=";
-        private final Names languageWords = new Names(21, LANGUAGE_KEYWORDS);
+        private final Names languageWords = new Names(21, TELLING_KEYWORDS);
         private final Names chipWords = new Names(6, CHIP_KEYWORDS);
         private final int[] text;
         private final int[] kinds = new int[MOST_CHIP_TOKENS + 1];
@@ -476,6 +482,7 @@ public final class TowerComputer {
 
         Scanner(int[] text) {
             this.text = text;
+            languageWords.addWords(DOING_KEYWORDS);
         }
 
         void scan(int bytes, boolean chipText) {
@@ -706,7 +713,7 @@ public final class TowerComputer {
         private static final int MOST_OF_A_SEGMENT = 12;
         private static final int ALL_VARIABLES = 4 * MOST_OF_A_SEGMENT;
         private final Names classes = new Names(ALL_CLASSES, SYSTEM_CLASS_NAMES);
-        private final Names subs = new Names(ALL_SUBS, MATH_AND_MEMORY_SUBS);
+        private final Names subs = new Names(ALL_SUBS, MATH_SUBS);
         private final int[] firstSubs = Arrays.copyOf(SYSTEM_FIRST_SUBS, ALL_CLASSES + 1);
         private final int[] parameters = Arrays.copyOf(SYSTEM_PARAMETERS, ALL_SUBS);
         private final int[] roles = new int[ALL_SUBS];
@@ -723,8 +730,14 @@ public final class TowerComputer {
         private int classVariables;
 
         Scope() {
-            subs.addWords(ARRAY_AND_STRING_SUBS);
-            subs.addWords(DEVICE_SUBS);
+            subs.addWords(MEMORY_SUBS);
+            subs.addWords(ARRAY_SUBS);
+            subs.addWords(STRING_METHODS);
+            subs.addWords(STRING_FUNCTIONS);
+            subs.addWords(OUTPUT_SUBS);
+            subs.addWords(KEYBOARD_SUBS);
+            subs.addWords(SCREEN_SUBS);
+            subs.addWords(SYS_SUBS);
             for (int i = 0; i < SYSTEM_SUBS; i++) {
                 boolean method = i == ARRAY_DISPOSE || i >= STRING_LENGTH && i <= STRING_DISPOSE;
                 roles[i] = method ? METHOD : FUNCTION;
@@ -921,10 +934,11 @@ public final class TowerComputer {
         }
 
         private void readClassVariables() {
-            for (int turn = 0; turn < MOST_LANGUAGE_TOKENS && (tokens.kind() == STATIC || tokens.kind() == FIELD); turn++) {
-                int segment = tokens.kind() == STATIC ? STATICS : FIELDS;
+            int kind = tokens.kind();
+            for (int turn = 0; turn < MOST_LANGUAGE_TOKENS && (kind == STATIC || kind == FIELD); turn++) {
                 tokens.at++;
-                readVariables(segment);
+                readVariables(kind == STATIC ? STATICS : FIELDS);
+                kind = tokens.kind();
             }
         }
 
@@ -1888,7 +1902,7 @@ public final class TowerComputer {
                 return 0;
             }
             int line = newString(LINE_ROOM);
-            while (keysTaken < keyCount && !memory.failed) {
+            for (int i = keysTaken; i < keyCount && !memory.failed; i++) {
                 int key = readChar();
                 if (key == '\n') {
                     break;
@@ -2598,8 +2612,11 @@ public final class TowerComputer {
         private void readChip() {
             tokens.expect(CHIP);
             beginChip();
-            tokens.expect('{');
+            if (tokens.fault != 0) {
+                return;
+            }
             int chip = chips.size - 1;
+            tokens.expect('{');
             tokens.expect(IN);
             readPins(chip);
             firstOuts[chip] = pins.size;
