@@ -1524,6 +1524,7 @@ public final class TowerComputer {
         private static final int HEAP_WORDS = HEAP_END - HEAP;
         private static final int MOST_BLOCKS = 100;
         private static final int ROWS = 32;
+        private static final int ROW_WORDS = 4;
         private static final int NO_WORD = 20;
         private static final int NO_BLOCK = 21;
         private static final int TOO_SMALL = 5;
@@ -1589,17 +1590,17 @@ public final class TowerComputer {
                 return 0;
             }
             long points = 0;
-            for (int i = 3; i >= 0; i--) {
-                points = points << 16 | words[HEAP_WORDS + 4 * y + i] & 0xFFFF;
+            for (int i = ROW_WORDS - 1; i >= 0; i--) {
+                points = points << 16 | words[HEAP_WORDS + ROW_WORDS * y + i] & 0xFFFF;
             }
             return points;
         }
 
-        int drawPoint(int x, int y, boolean clearing) {
-            int i = HEAP_WORDS + 4 * y + x / 16;
-            if (i >= HEAP_WORDS && i < words.length) {
-                int bit = 1 << x % 16;
-                words[i] = (short) (clearing ? words[i] & ~bit : words[i] | bit);
+        /** Sets or clears these bits of word i of row y of the screen. */
+        int paint(int y, int i, int bits, boolean clearing) {
+            int index = HEAP_WORDS + ROW_WORDS * y + i;
+            if (index >= HEAP_WORDS && index < words.length) {
+                words[index] = (short) (clearing ? words[index] & ~bits : words[index] | bits);
             }
             return 0;
         }
@@ -1672,6 +1673,7 @@ public final class TowerComputer {
         private static final int FETCHED = 7;
         private static final int LINE_ROOM = 80;
         private static final int COLUMNS = 64;
+        private static final int WORD_POINTS = 16;
         private static final int LARGEST_RADIUS = 31;
         private static final int LARGEST_ROOT = 181;
         private final Memory memory;
@@ -1760,7 +1762,7 @@ public final class TowerComputer {
                 case KEYBOARD_READ_LINE: return readLine(a);
                 case SCREEN_CLEAR: return memory.clearScreen();
                 case SCREEN_SET_COLOR: return setColor(a);
-                case SCREEN_DRAW_PIXEL: return isPoint(a, b) ? memory.drawPoint(a, b, clearing) : memory.fail(7);
+                case SCREEN_DRAW_PIXEL: return isPoint(a, b) ? drawPoint(a, b) : memory.fail(7);
                 case SCREEN_DRAW_LINE: return drawLine(a, b, c, d);
                 case SCREEN_DRAW_RECTANGLE: return drawRectangle(a, b, c, d);
                 case SCREEN_DRAW_CIRCLE: return drawCircle(a, b, c);
@@ -1936,7 +1938,7 @@ public final class TowerComputer {
             int b = 0;
             int d = dy == 0 ? -1 : 0;
             for (int turn = 0; turn <= dx + dy && a <= dx && b <= dy; turn++) {
-                memory.drawPoint(u < x ? x - a : x + a, v < y ? y - b : y + b, clearing);
+                drawPoint(u < x ? x - a : x + a, v < y ? y - b : y + b);
                 if (d < 0) {
                     a++;
                     d += dy;
@@ -1958,9 +1960,18 @@ public final class TowerComputer {
             return 0;
         }
 
+        private int drawPoint(int x, int y) {
+            return memory.paint(y, x / WORD_POINTS, 1 << x % WORD_POINTS, clearing);
+        }
+
+        /** Word by word, since a point by itself would take too long for large rectangles. */
         private void drawSpan(int from, int to, int y) {
-            for (int x = from; x <= to; x++) {
-                memory.drawPoint(x, y, clearing);
+            for (int i = 0; i < Memory.ROW_WORDS; i++) {
+                int low = Math.max(from - WORD_POINTS * i, 0);
+                int high = Math.min(to - WORD_POINTS * i, WORD_POINTS - 1);
+                if (low <= high) {
+                    memory.paint(y, i, (1 << high + 1) - (1 << low), clearing);
+                }
             }
         }
 
