@@ -255,6 +255,9 @@ public final class ChipsTest {
         String many = "CHIP Z { IN a[16], b[16], c[16], d[16]; OUT o[16]; PARTS: } CHIP Y { IN a[16], b[16], c[16]; OUT o[16]; PARTS: "
             + Check.times(20, "Z(a=true);") + " } CHIP B { IN a[16], b[16], c[16]; OUT o[#]; PARTS: " + Check.times(24, "Y(a=true);") + " }";
         Check.chipsFault(0, many.replace("#", "16"));
+        Check.chipsFault(0, many.replace("#", "16").replace("PARTS: Y(a=true", "PARTS: Y(o=o, a=true"));
+        Check.chipsFault(0, many.replace("#", "15").replace("PARTS: Y(a=true", "PARTS: Y(o[3]=x, a=true")
+            .replaceAll("Y\\(a=true\\); }$", "Y(a[0]=x, a[1]=x); }"));
         Check.chipsFault(6, many.replace("#", "16").replace("OUT o[16]; PARTS: Y", "OUT o[16], p; PARTS: Y") + "^");
         Check.chipsFault(6, many.replace("#", "16").replace("PARTS: Y(a=true", "PARTS: Y(o[3]=x, a=true") + "^");
         Check.chipsFault(0, many.replace("#", "15").replace("PARTS: Y(a=true", "PARTS: Y(o[3]=x, a=true"));
@@ -410,6 +413,11 @@ public final class ChipsTest {
         x.drive(2, 0x7FFF8000 - 0x8000);
         Check.due("pin(0)", x.pin(0), 0x8001);
         Check.due("drive(3, 0)", x.drive(3, 0), false);
+        TowerComputer y = board("CHIP B { IN a[16], b[16]; OUT o[16], p[16]; PARTS: " + Check.times(2,
+            "Nand(a=a[#], b=true, out=o[#]); Nand(a=b[#], b=true, out=p[#]); ") + "}");
+        y.drive(0, 1 << 16 | 1);
+        Check.due("pin(0)", y.pin(0), 2);
+        Check.due("pin(1), of the other IN pin", y.pin(1), 3);
     }
 
     private static void otherTexts() {

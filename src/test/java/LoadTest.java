@@ -127,6 +127,11 @@ public final class LoadTest {
         Check.loadsWell(Check.inMain(Check.times(22, "while (1) { ") + "let x = 1; " + Check.times(22, "} "))
             .replace("main() {", "main() { var int x;"));
         Check.loadFault(2, Check.inMain(Check.times(22, "while (1) { ") + "do Math.abs(^(1));" + Check.times(22, "} ")));
+        // What is closed is open no more.
+        Check.loadsWell("class A { " + Check.times(15, "function int f#(int a) { } ") + "} " + Check.times(10, "class C# { } ")
+            + Check.inMain("var int x; " + Check.times(30, "let x[1] = x[2]; ") + "let x = -1" + Check.times(30, " + (-x)") + ";"
+            + Check.times(15, " if (x) { } while (0) { }")));
+        Check.loadsWell(Check.inMain("var int x; " + Check.times(30, "if (1) { } else { } do Math.abs(x); ")));
         Check.loadsWell("class Main { function int f(int a) { return " + Check.times(23, "(") + "a" + Check.times(23, ")")
             + "; } function void main() { } }");
     }

@@ -126,6 +126,11 @@ public final class RunTest {
             + " do Output.printInt(A.get()); } }"), "3412");
         Check.due("parameters", runOf("class Main { function int f(int a, int b, int c) { let a = a * 2;"
             + " return a * 100 + (b * 10) + c; } function void main() { do Output.printInt(Main.f(1, 2, 3)); } }"), "223");
+        Check.due("what a caller has stays", runOf("class A { field int x; constructor A new(int a) { let x = a; return this; }"
+            + " method int f(A o, int p) { var int v, w; let v = 7; let w = o.get() + Main.id(p); let v = v + w; let x = x + 1;"
+            + " return v * 100 + (p * 10) + x; } method int get() { var int u, v; let v = 9; return x; } } class Main {"
+            + " function int id(int a) { var int b, c; let c = a; return c; } function void main() { var A a, b;"
+            + " let a = A.new(1); let b = A.new(2); do Output.printInt(a.f(b, 3)); do Output.printInt(a.get()); } }"), "12322");
         Check.due("a var hides a field, and a field is no static", runOf("class Main { field int x; static int y;"
             + " constructor Main new() { let x = 1; let y = 2; return this; }"
             + " method int f(int x) { var int y; let y = 5; return x * 10 + y; } method int g() { return x * 10 + y; }"
@@ -274,6 +279,10 @@ public final class RunTest {
         TowerComputer x = Check.program(text);
         Check.due("run of deep calls", x.run(5000), 0);
         Check.due("count(2) of deep calls", x.count(2), 40);
+        for (int i = 0; i < 20; i++) {
+            Check.due("run of deep calls for want of fuel", x.run(100), 1);
+        }
+        Check.due("run of deep calls again", x.run(5000), 0);
         Check.due("output of deep calls", Check.output(x), Integer.toString(22 * 38));
     }
 

@@ -138,6 +138,8 @@ public final class SystemTest {
         fails(15, ab + "do s.charAt(2);");
         fails(15, ab + "do s.charAt(-1);");
         fails(16, ab + "do s.setCharAt(2, 1);");
+        fails(15, "var String s; let s = String.new(4); do s.appendChar(1); do s.charAt(1);");
+        fails(16, "var String s; let s = String.new(4); do s.appendChar(1); do s.setCharAt(1, 1);");
         fails(16, ab + "do s.setCharAt(-1, 1);");
         fails(17, ab + "do s.appendChar(1);");
         fails(17, "var String s; let s = String.new(0); do s.appendChar(1);");
@@ -206,7 +208,16 @@ public final class SystemTest {
         Check.due("printChar", written("do Output.printChar(65); do Output.printChar(-1); do Output.printChar(256 + 66);"),
             "A\u00FFB");
         Check.due("println", written("do Output.println(); do Output.printInt(Output.println());"), "\n\n0");
-        Check.due("printString gives 0", written("do Output.printInt(Output.printString(\"x\"));"), "x0");
+        String[] giveNothing = {"Memory.poke(2048, 1)", "Memory.deAlloc(Memory.alloc(1))", "Output.printChar(120)",
+            "Output.printString(\"x\")", "Screen.clearScreen()", "Screen.setColor(1)", "Screen.drawPixel(1, 1)",
+            "Screen.drawLine(1, 1, 2, 2)", "Screen.drawRectangle(1, 1, 2, 2)", "Screen.drawCircle(5, 5, 2)", "Sys.wait(3)",
+            "s.setCharAt(0, 1)", "s.eraseLastChar()", "s.setInt(1)", "s.dispose()", "a.dispose()"};
+        for (String call : giveNothing) {
+            String out = call.startsWith("Output") ? "x0" : "0";
+            Check.due(call + " gives 0", written("var String s; var Array a; let s = \"ab\"; let a = Array.new(1);"
+                + " do Output.printInt(" + call + ");"), out);
+        }
+        Check.due("printInt gives 0", written("do Output.printInt(Output.printInt(5));"), "50");
     }
 
     private static void keyboard() {
