@@ -181,15 +181,15 @@ public final class TowerComputer {
     private int tapeLength;
     private int lastPlace = NOWHERE;
     private boolean loaded;
-    private final Scanner scanner = new Scanner(tape);
+    private final Tokens tokens = new Tokens(tape);
     private final Program program = new Program();
-    private final Compiler compiler = new Compiler(scanner, program);
+    private final Translator translator = new Translator(tokens, program);
     private final Memory memory = new Memory();
     private final Library library = new Library(memory);
     private final Machine machine = new Machine(program, memory, library);
     private final Processor processor = new Processor(tape);
-    private final ChipReader chipReader = new ChipReader(scanner);
-    private final ChipChecker chipChecker = new ChipChecker(scanner, chipReader);
+    private final ChipReader chipReader = new ChipReader(tokens);
+    private final ChipChecker chipChecker = new ChipChecker(tokens, chipReader);
     private final Board board = new Board(chipReader, chipChecker);
 
     public TowerComputer() {
@@ -221,14 +221,14 @@ public final class TowerComputer {
             return -1;
         }
         tapeLength = 0;
-        scanner.scan(n, false);
-        compiler.readText(false);
-        if (scanner.fault == 0) {
-            compiler.readText(true);
+        tokens.scan(n, false);
+        translator.readText(false);
+        if (tokens.fault == 0) {
+            translator.readText(true);
         }
-        loaded = scanner.fault == 0;
-        lastPlace = scanner.placeOf(scanner.faultToken);
-        return scanner.fault;
+        loaded = tokens.fault == 0;
+        lastPlace = tokens.placeOf(tokens.faultToken);
+        return tokens.fault;
     }
 
     public boolean keys(int n) {
@@ -350,17 +350,17 @@ public final class TowerComputer {
             return -1;
         }
         tapeLength = 0;
-        scanner.scan(n, true);
+        tokens.scan(n, true);
         board.remove();
         chipReader.read();
-        if (scanner.fault == 0) {
+        if (tokens.fault == 0) {
             chipChecker.check();
         }
-        if (scanner.fault == 0 && !board.build()) {
-            scanner.blame(RING, scanner.size - 1);
+        if (tokens.fault == 0 && !board.build()) {
+            tokens.blame(RING, tokens.size - 1);
         }
-        lastPlace = scanner.placeOf(scanner.faultToken);
-        return scanner.fault;
+        lastPlace = tokens.placeOf(tokens.faultToken);
+        return tokens.fault;
     }
 
     public boolean drive(int k, int v) {
@@ -460,7 +460,7 @@ public final class TowerComputer {
     }
 
     /** The tokens of a text of the language, or of chips. The last one is the end, or one that is none. */
-    private static final class Scanner {
+    private static final class Tokens {
         private static final int MOST_STRING_BYTES = 60;
         private static final String LANGUAGE_SIGNS = "{}[]().,;+-*/&|<>=~";
         private static final String CHIP_SIGNS = "{}()[],;:=";
@@ -480,7 +480,7 @@ public final class TowerComputer {
         private int fault;
         private int faultToken;
 
-        Scanner(int[] text) {
+        Tokens(int[] text) {
             this.text = text;
             languageWords.addWords(DOING_KEYWORDS);
         }
@@ -841,11 +841,11 @@ public final class TowerComputer {
      * Reads a text of the language twice: the first time for its syntax, its room and what it tells,
      * the second time, when all that is told is known, for what its names mean and for its commands.
      */
-    private static final class Compiler {
+    private static final class Translator {
         private static final int MOST_OPEN = 25;
         private static final int MOST_STRINGS_BYTES = 300;
         private static final int UNKNOWN_OWNER = -2;
-        private final Scanner tokens;
+        private final Tokens tokens;
         private final Program program;
         private final Scope scope = new Scope();
         private final Names entry = new Names(2, "Main main");
@@ -854,7 +854,7 @@ public final class TowerComputer {
         private int stringsBytes;
         private int labels;
 
-        Compiler(Scanner tokens, Program program) {
+        Translator(Tokens tokens, Program program) {
             this.tokens = tokens;
             this.program = program;
         }
@@ -2583,7 +2583,7 @@ public final class TowerComputer {
         private static final int ALL_PARTS = MOST_CHIPS * MOST_PARTS;
         /** A link has at least four tokens, with its comma. */
         private static final int ALL_LINKS = MOST_CHIP_TOKENS / 4;
-        private final Scanner tokens;
+        private final Tokens tokens;
         private final Names chips = new Names(ALL_CHIPS, "Nand Dff");
         private final int[] chipTokens = new int[ALL_CHIPS];
         private final int[] firstPins = new int[ALL_CHIPS + 1];
@@ -2599,7 +2599,7 @@ public final class TowerComputer {
         private int parts;
         private int links;
 
-        ChipReader(Scanner tokens) {
+        ChipReader(Tokens tokens) {
             this.tokens = tokens;
             firstPins[1] = 3;
             firstPins[2] = GATE_PINS;
@@ -2757,7 +2757,7 @@ public final class TowerComputer {
         private static final int MOST_WIDTH = 16;
         private static final int ZEROS = -1;
         private static final int ONES = -2;
-        private final Scanner tokens;
+        private final Tokens tokens;
         private final ChipReader text;
         private final int[] widths = new int[ChipReader.ALL_PINS];
         /** Of each pin its first bit among the bits of its chip. */
@@ -2780,7 +2780,7 @@ public final class TowerComputer {
         /** Of each chip, as bits, the chips that are in it at any depth. */
         private final int[] within = new int[ChipReader.ALL_CHIPS];
 
-        ChipChecker(Scanner tokens, ChipReader text) {
+        ChipChecker(Tokens tokens, ChipReader text) {
             this.tokens = tokens;
             this.text = text;
             for (int pin = 0; pin < ChipReader.GATE_PINS; pin++) {
