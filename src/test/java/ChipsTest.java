@@ -24,6 +24,7 @@ public final class ChipsTest {
         clocks();
         measures();
         drivesAndPins();
+        oneTextBehindAnother();
         otherTexts();
         Check.finish();
     }
@@ -111,6 +112,7 @@ public final class ChipsTest {
         fault(2, Check.times(24, "Nand(a=a); ") + "^Nand(a=a);");
         fault(1, Check.times(24, "Nand(a=a); ") + "^5");
         well("Nand(" + Check.listed(100, "out=i#") + "); Nand(a=i99, b=i0, out=o);");
+        Check.chipsFault(0, "CHIP A { IN a; OUT o; PARTS: Nand(out=x, out=y); } " + chip("Nand(" + Check.listed(100, "out=i#") + ");"));
         fault(2, "Nand(" + Check.listed(100, "out=i#") + "); Nand(a=i5, b=a, out=o, out=^x);");
         fault(2, "Nope(" + Check.listed(100, "x=i#") + ", x=a, x=o, x=true, y=^x);");
         Check.chipsFault(0, "CHIP A { IN a; OUT o; PARTS: Nand(" + Check.listed(60, "out=i#") + "); } CHIP B { IN a; OUT o; PARTS: Nand("
@@ -147,6 +149,8 @@ public final class ChipsTest {
         Check.chipsFault(0, wide + chip("W(p[0..1]=v[2..3], p[3]=a);"));
         Check.chipsFault(3, wide + chip("W(p[0..1]=v[2..3], ^p[1]=a);"));
         Check.chipsFault(3, wide + chip("W(p[3]=a, ^p=v);"));
+        Check.chipsFault(3, NOT + AND + XOR + wide + chip("W(p[3]=a, ^p=v);"));
+        Check.chipsFault(3, NOT + AND + XOR + wide + chip("W(q[3]=o); W(q[3]=^o);"));
         Check.chipsFault(0, wide + chip("W(q[0..1]=w[2..3]); W(q[3]=w[1]);"));
         Check.chipsFault(3, wide + chip("W(q[0..1]=w[2..3]); W(q[3]=^w[3]);"));
         Check.chipsFault(3, wide + chip("W(q=w); W(q[0]=^w[0]);"));
@@ -261,8 +265,28 @@ public final class ChipsTest {
         Check.chipsFault(6, many.replace("#", "16").replace("OUT o[16]; PARTS: Y", "OUT o[16], p; PARTS: Y") + "^");
         Check.chipsFault(6, many.replace("#", "16").replace("PARTS: Y(a=true", "PARTS: Y(o[3]=x, a=true") + "^");
         Check.chipsFault(0, many.replace("#", "15").replace("PARTS: Y(a=true", "PARTS: Y(o[3]=x, a=true"));
+        // The same with a Nand, of 3 bits, or a Dff, of 2, in each of the 24.
+        String nands = many.replace("c[16]; OUT o[16]; PARTS: Z", "c[13]; OUT o[16]; PARTS: Nand(a=true); Z").replace("#", "16");
+        Check.chipsFault(0, nands);
+        Check.chipsFault(6, nands.replace("OUT o[16]; PARTS: Y", "OUT o[16], p; PARTS: Y") + "^");
+        String dffs = many.replace("c[16]; OUT o[16]; PARTS: Z", "c[14]; OUT o[16]; PARTS: Dff(in=true); Z").replace("#", "16");
+        Check.chipsFault(0, dffs);
+        Check.chipsFault(6, dffs.replace("OUT o[16]; PARTS: Y", "OUT o[16], p; PARTS: Y") + "^");
         Check.chipsFault(6, tower(8) + "^");
+        manyUsers();
         Check.due("gates(0) of the highest tower", board(tower(1)).gates(0), 1);
+    }
+
+    /** 1490 Nands that all get what one gives, on both sides. */
+    private static void manyUsers() {
+        TowerComputer x = board("CHIP T { IN a; OUT o; PARTS: " + Check.times(10, "Nand(a=a, b=a);") + " } CHIP U { IN a; OUT o; PARTS: "
+            + Check.times(10, "T(a=a);") + " } CHIP B { IN a; OUT o; PARTS: Nand(a=a, b=true, out=x, out=o); "
+            + Check.times(14, "U(a=x);") + Check.times(9, "T(a=x);") + " }");
+        Check.due("gates(0)", x.gates(0), 1491);
+        Check.due("gates(5)", x.gates(5), 2);
+        Check.due("gates(7)", x.gates(7), 1);
+        x.drive(0, 1);
+        Check.due("gates(7)", x.gates(7), 1490);
     }
 
     /** Sixteen chips, each made of so many of the one ahead of it. */
@@ -376,6 +400,8 @@ public final class ChipsTest {
         Check.due("tick()", x.tick(), 1);
         Check.due("gates(7)", x.gates(7), 1);
         Check.chips(x, NOT);
+        Check.due("gates(0) of a new board", x.gates(0), 1);
+        Check.due("gates(1) of a new board", x.gates(1), 0);
         Check.due("gates(6) of a new board", x.gates(6), 0);
         Check.due("tick() without a Dff", x.tick(), 0);
         Check.due("gates(6)", x.gates(6), 1);
@@ -418,6 +444,26 @@ public final class ChipsTest {
         y.drive(0, 1 << 16 | 1);
         Check.due("pin(0)", y.pin(0), 2);
         Check.due("pin(1), of the other IN pin", y.pin(1), 3);
+    }
+
+    /** Nothing of a text is left in the next one. */
+    private static void oneTextBehindAnother() {
+        TowerComputer x = new TowerComputer();
+        for (int i = 0; i < 2; i++) {
+            Check.due("chips of many parts", Check.chips(x, Check.times(8, "CHIP C# { IN a; OUT o; PARTS: "
+                + Check.times(24, "Nand(a=a);") + " } ")), 0);
+            Check.due("gates(0)", x.gates(0), 24);
+            Check.due("gates(4)", x.gates(4), 8);
+            Check.due("chips of many pins", Check.chips(x, Check.times(16, "CHIP C# { IN a,b,c,d,e,f,g,h,i,j,k; OUT o; PARTS: } ")), 0);
+            Check.due("gates(2)", x.gates(2), 11);
+            Check.due("chips without a name", Check.chips(x, "CHIP { IN a; OUT o; PARTS: }"), 1);
+            Check.due("chips of links", Check.chips(x, chip("Nand(" + Check.listed(60, "out=i#") + ");")), 0);
+            Check.due("chips of a gate", Check.chips(x, chip("Dff(in=a, out=o); Nand(a=v[0], b=v[1], out=w[2]);")), 0);
+            x.drive(0, 1);
+            Check.due("tick()", x.tick(), 1);
+            Check.due("pin(0)", x.pin(0), 1);
+            Check.due("pin(1)", x.pin(1), 4);
+        }
     }
 
     private static void otherTexts() {

@@ -15,6 +15,7 @@ public final class LoadTest {
         objects();
         mains();
         firstFromTheLeft();
+        oneTextBehindAnother();
         whatLoadingLeaves();
         Check.finish();
     }
@@ -196,6 +197,9 @@ public final class LoadTest {
         Check.loadFault(4, "class A { function int f() { var int x; return x; } function int g() { return ^x; } } " + main);
         Check.loadFault(4, "class A { static int s; } class B { function int f() { return ^s; } } " + main);
         Check.loadFault(4, Check.inMain("do ^x.f();"));
+        Check.loadFault(4, "class A { static int a, b; } class B { function int f() { var int x, y, z; } function int g() {"
+            + " return ^x; } } " + main);
+        Check.loadFault(3, "class A { static int a, b; } class B { function int f(int c, int ^c) { } } " + main);
         Check.loadFault(4, Check.inMain("do Main.^f();"));
         Check.loadFault(4, Check.inMain("do Math.^length();"));
         Check.loadFault(4, Check.inMain("var int i; do i.^f();"));
@@ -267,6 +271,24 @@ public final class LoadTest {
         Check.loadFault(6, "class A { function A f() { return ^this; } } class A { }");
         Check.loadFault(3, "class A { } class ^A { function A f() { return this; } }");
         Check.loadFault(4, Check.inMain("do ^g(x);"));
+    }
+
+    /** Nothing of a text is left in the next one. */
+    private static void oneTextBehindAnother() {
+        TowerComputer x = new TowerComputer();
+        String full = Check.times(11, "class C# { static int s; function int f() { } method int g() { } } ") + Check.inMain("");
+        for (int i = 0; i < 3; i++) {
+            Check.due("load of a full text", Check.load(x, full), 0);
+            Check.due("load of a fault within open signs", Check.load(x, Check.inMain("if (1) { while (1) { let x = ((((-(5 5;")), 1);
+            Check.due("load of a class without subs", Check.load(x, "class C0 { } " + Check.inMain("do C0.f();")), 4);
+            Check.due("load of two classes without subs", Check.load(x, "class A { } class C1 { } class C2 { function int h() { } } "
+                + Check.inMain("do C1.h();")), 4);
+            Check.due("load of signs as deep as may be", Check.load(x, Check.inMain("var int x; let x = " + Check.times(23, "(")
+                + "1" + Check.times(23, ")") + ";")), 0);
+            Check.due("load without Main", Check.load(x, "class A { }"), 7);
+            Check.due("load of the longest strings", Check.load(x, Check.inMain(Check.times(5, "do Output.printString(\""
+                + Check.times(60, "x") + "\"); "))), 0);
+        }
     }
 
     private static void whatLoadingLeaves() {

@@ -2,10 +2,12 @@ import java.util.Random;
 
 /** What holds for all promises: a call that is refused changes nothing, and no call ever throws. */
 public final class RefusalTest {
-    private static final int MOST_CALLS = 512;
+    /** An object is used for at most 512 calls; each turn of a storm makes up to two. */
+    private static final int MOST_TURNS = 250;
 
     public static void main(String[] args) {
         refusedCalls();
+        refusedFeed();
         answersChangeNothing();
         twoObjects();
         sameCallsSameAnswers();
@@ -38,16 +40,17 @@ public final class RefusalTest {
         for (int what = 0; what <= 7; what++) {
             all.append(' ').append(x.count(what)).append(' ').append(x.register(what)).append(' ').append(x.gates(what));
         }
-        for (int y = 0; y < 32; y++) {
+        for (int y = 3; y < 18; y++) {
             all.append(' ').append(x.row(y));
         }
-        for (int a = 2040; a < 2100; a++) {
+        for (int a = 2045; a < 2065; a++) {
             all.append(' ').append(x.word(a));
         }
-        for (int i = 0; i < 60; i++) {
+        for (int i = 0; i < 16; i++) {
             all.append(' ').append(x.command(i, 0)).append(' ').append(x.command(i, 1)).append(' ').append(x.command(i, 2));
-            all.append(' ').append(x.code(i)).append(' ').append(x.store(i)).append(' ').append(x.store(100));
+            all.append(' ').append(x.code(i)).append(' ').append(x.store(i + 5));
         }
+        all.append(' ').append(x.store(100));
         return all.append(' ').append(x.pin(0)).toString();
     }
 
@@ -68,11 +71,17 @@ public final class RefusalTest {
             Check.due("set(" + n + ", 1)", x.set(n, 1), false);
         }
         Check.due("state behind refused calls", state(x), before);
+    }
+
+    private static void refusedFeed() {
+        TowerComputer x = busy();
         for (int i = 1; i < 200; i++) {
             Check.due("feed", x.feed(1, 2, 3, 4, 5), true);
         }
         Check.due("feed without room", x.feed(1, 2, 3, 4, 5), false);
         Check.due("count(0)", x.count(0), 4000);
+        Check.due("register(4)", x.register(4), 5);
+        Check.due("pin(0)", x.pin(0), 1);
     }
 
     private static void answersChangeNothing() {
@@ -137,7 +146,7 @@ public final class RefusalTest {
         TowerComputer x = new TowerComputer();
         StringBuilder all = new StringBuilder();
         int calls = 0;
-        while (calls < MOST_CALLS) {
+        while (calls < MOST_TURNS) {
             if (r.nextInt(12) == 0) {
                 String text = someText(r);
                 Check.feed(x, text);

@@ -15,6 +15,7 @@ public final class RunTest {
         output();
         keys();
         runsAreAlike();
+        colorIsSetAtFirst();
         refused();
         Check.finish();
     }
@@ -131,6 +132,11 @@ public final class RunTest {
             + " return v * 100 + (p * 10) + x; } method int get() { var int u, v; let v = 9; return x; } } class Main {"
             + " function int id(int a) { var int b, c; let c = a; return c; } function void main() { var A a, b;"
             + " let a = A.new(1); let b = A.new(2); do Output.printInt(a.f(b, 3)); do Output.printInt(a.get()); } }"), "12322");
+        Check.due("as many variables as there may be", runOf("class A { static int " + Check.listed(12, "s#") + "; field int "
+            + Check.listed(12, "f#") + "; constructor A new() { " + Check.times(12, "let s# = 1; let f# = 10; ") + "return this; }"
+            + " method int m(" + Check.listed(12, "int p#") + ") { var int " + Check.listed(12, "v#") + "; let v11 = 1000; let p11 = 100;"
+            + " return s0 + s11 + f0 + f11 + p0 + p11 + v0 + v11; } } class Main { function void main() { var A a;"
+            + " let a = A.new(); do Output.printInt(a.m(" + Check.listed(12, "5") + ")); } }"), "1127");
         Check.due("a var hides a field, and a field is no static", runOf("class Main { field int x; static int y;"
             + " constructor Main new() { let x = 1; let y = 2; return this; }"
             + " method int f(int x) { var int y; let y = 5; return x * 10 + y; } method int g() { return x * 10 + y; }"
@@ -260,6 +266,10 @@ public final class RunTest {
         Check.due("count(1)", steps, 2 + 39 * 3 + 1);
         Check.due("the step of the call comes first", y.run(steps - 1), 1);
         Check.due("count(2)", y.count(2), 40);
+        Check.due("run(4)", y.run(4), 1);
+        Check.due("count(2) of a run that is less deep", y.count(2), 2);
+        Check.due("run again", y.run(steps - 1), 1);
+        Check.due("count(2)", y.count(2), 40);
         Check.due("place()", y.place(), text.indexOf("return 1"));
         TowerComputer z = Check.program(text.replace("#", "5"));
         Check.due("run(0)", z.run(0), 1);
@@ -365,6 +375,14 @@ public final class RunTest {
             Check.due("count(4) of run " + i, x.count(4), 1);
             Check.due("row(3) of run " + i, x.row(3), 8);
             Check.due("row(2) of run " + i, x.row(2), 0);
+        }
+    }
+
+    private static void colorIsSetAtFirst() {
+        TowerComputer x = Check.mainProgram("do Screen.drawPixel(5, 5); do Screen.setColor(0);");
+        for (int i = 0; i < 3; i++) {
+            Check.due("run " + i, x.run(500), 0);
+            Check.due("row(5) of run " + i, x.row(5), 32);
         }
     }
 

@@ -201,6 +201,16 @@ public final class SignsTest {
                 Check.due("next behind " + v + ";" + JUMPS[j], x.register(2), taken ? 40 : 2);
             }
         }
+        for (int j = 1; j < JUMPS.length; j++) {
+            TowerComputer x = processor("@7\nD=A\n@9\nD+1;" + JUMPS[j]);
+            x.go(4);
+            Check.due("A behind a jump alone", x.register(0), 9);
+            Check.due("D behind a jump alone", x.register(1), 7);
+            Check.due("M behind a jump alone", x.store(9), 0);
+        }
+        TowerComputer idle = processor("@7\nD&A\nD&M");
+        Check.due("go(3)", idle.go(3), 3);
+        Check.due("A behind what goes nowhere", idle.register(0), 7);
         TowerComputer x = processor("@3\nA=-1;JMP\n@9\n@7");
         x.go(2);
         Check.due("the jump goes where A was", x.register(2), 3);
@@ -279,5 +289,10 @@ public final class SignsTest {
         Check.due("register(5) behind a fault", x.register(5), 0);
         Check.due("code(0) behind a fault", x.code(0), -1);
         Check.due("go(5) behind a fault", x.go(5), 0);
+        Check.due("signs behind a fault", Check.signs(x, "@u\n@1\n@v"), 0);
+        Check.due("place()", x.place(), -1);
+        Check.due("register(3)", x.register(3), 3);
+        Check.due("register(5)", x.register(5), 2);
+        Check.due("code(2)", x.code(2), 17);
     }
 }

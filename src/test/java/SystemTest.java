@@ -94,6 +94,9 @@ public final class SystemTest {
         Check.due("count(3)", x.count(3), 100);
         Check.due("a block less", written(loop.replace("#", "100") + "do Memory.deAlloc(2099); do Output.printInt(Memory.alloc(1));"),
             "2099");
+        Check.due("the first of 100", written(loop.replace("#", "100") + "do Memory.deAlloc(2048); do Output.printInt(Memory.alloc(1));"
+            + " do Memory.deAlloc(2147); do Memory.deAlloc(2048); do Memory.deAlloc(2146); do Output.printInt(Memory.alloc(2));"),
+            "20482146");
         fails(5, loop.replace("#", "100") + "do Memory.alloc(0);");
         fails(2, loop.replace("#", "100") + "do Array.new(0);");
         fails(6, "var Array a, b, c; let a = Array.new(6000); let b = Array.new(100); let c = Array.new(6188);"
@@ -120,6 +123,14 @@ public final class SystemTest {
         Check.due("word(2049)", y.word(2049), 2);
         Check.due("word(2051)", y.word(2051), '~');
         Check.due("count(3)", y.count(3), 4);
+        TowerComputer z = Check.mainProgram("var String s; do Memory.poke(2048, 7); do Memory.poke(2049, 7); do Memory.poke(2050, 7);"
+            + " let s = String.new(3); do Output.printInt(s.length()); do s.appendChar(65); do s.appendChar(66); do s.appendChar(67);"
+            + " do s.setCharAt(1, 68); do s.setCharAt(2, 69); do Output.printString(s);");
+        Check.due("run", z.run(50), 0);
+        Check.due("a string where other words were", Check.output(z), "0ADE");
+        TowerComputer u = Check.mainProgram("do Memory.poke(2050, 7); do String.new(3);");
+        u.run(50);
+        Check.due("other words stay", u.word(2050), 7);
         value("String.newLine()", 10);
         value("String.doubleQuote()", 34);
         value("String.backSpace()", 8);
@@ -195,6 +206,10 @@ public final class SystemTest {
             Check.due("intValue of " + pair[0], written("var String s; let s = \"" + pair[0]
                 + "\"; do Output.printInt(s.intValue());"), pair[1]);
         }
+        Check.due("what is behind the length is no digit", written("var String s; let s = \"1234\"; do s.eraseLastChar();"
+            + " do Output.printInt(s.intValue()); do s.eraseLastChar(); do s.eraseLastChar(); do s.eraseLastChar();"
+            + " do Output.printInt(s.intValue());"), "1230");
+        Check.due("no character is read if there is none", written("var String s; let s = 14334; do Output.printInt(s.intValue());"), "0");
         for (String v : new String[] {"0", "7", "10", "100", "999", "1000", "9999", "10000", "32767", "-1", "-10", "-32767 - 1"}) {
             String want = v.equals("-32767 - 1") ? "-32768" : v;
             Check.due("setInt of " + v, written("var String s; let s = String.new(6); do s.setInt(" + v
