@@ -286,6 +286,9 @@ public final class LoadTest {
             Check.due("load of signs as deep as may be", Check.load(x, Check.inMain("var int x; let x = " + Check.times(23, "(")
                 + "1" + Check.times(23, ")") + ";")), 0);
             Check.due("load without Main", Check.load(x, "class A { }"), 7);
+            Check.due("load without the first {", Check.load(x, "class A ["), 1);
+            Check.due("load of signs that are too deep", Check.load(x, Check.inMain("var int x; let x = " + Check.times(24, "-")
+                + "1;")), 2);
             Check.due("load of the longest strings", Check.load(x, Check.inMain(Check.times(5, "do Output.printString(\""
                 + Check.times(60, "x") + "\"); "))), 0);
         }

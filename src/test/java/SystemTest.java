@@ -97,6 +97,11 @@ public final class SystemTest {
         Check.due("the first of 100", written(loop.replace("#", "100") + "do Memory.deAlloc(2048); do Output.printInt(Memory.alloc(1));"
             + " do Memory.deAlloc(2147); do Memory.deAlloc(2048); do Memory.deAlloc(2146); do Output.printInt(Memory.alloc(2));"),
             "20482146");
+        TowerComputer y = Check.mainProgram(loop.replace("#", "100") + "do Memory.deAlloc(2147); do Memory.deAlloc(2048);"
+            + " do Memory.alloc(2); do Memory.alloc(1); do Memory.deAlloc(2147);");
+        Check.due("run", y.run(5000), 0);
+        Check.due("count(3)", y.count(3), 99);
+        Check.due("count(4)", y.count(4), 99);
         fails(5, loop.replace("#", "100") + "do Memory.alloc(0);");
         fails(2, loop.replace("#", "100") + "do Array.new(0);");
         fails(6, "var Array a, b, c; let a = Array.new(6000); let b = Array.new(100); let c = Array.new(6188);"
