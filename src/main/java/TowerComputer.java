@@ -785,8 +785,9 @@ public final class TowerComputer {
             }
         }
 
+        /** A text can stop ahead of its first sub's name: the system's last sub stays as it is then. */
         void tellParameters() {
-            if (ownSub < ALL_SUBS) {
+            if (ownSub >= SYSTEM_SUBS && ownSub < ALL_SUBS) {
                 parameters[ownSub] = used[ARGUMENT];
             }
         }

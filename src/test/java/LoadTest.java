@@ -286,6 +286,9 @@ public final class LoadTest {
             Check.due("load of signs as deep as may be", Check.load(x, Check.inMain("var int x; let x = " + Check.times(23, "(")
                 + "1" + Check.times(23, ")") + ";")), 0);
             Check.due("load without Main", Check.load(x, "class A { }"), 7);
+            Check.due("load of a sub without a name", Check.load(x, "class A { function int f(int a, int b, int c) { } } x"), 1);
+            Check.due("load of a sub without a name", Check.load(x, "class Main { function void 5"), 1);
+            Check.due("load of all of Sys", Check.load(x, Check.inMain("do Sys.halt(); do Sys.error(1); do Sys.wait(1);")), 0);
             Check.due("load without the first {", Check.load(x, "class A ["), 1);
             Check.due("load of signs that are too deep", Check.load(x, Check.inMain("var int x; let x = " + Check.times(24, "-")
                 + "1;")), 2);
