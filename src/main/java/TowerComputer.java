@@ -3221,7 +3221,7 @@ public final class TowerComputer {
                     }
                 }
             }
-            for (int i = 0; i < nands; i++) {
+            for (int i = 0; i < MOST_GATES && i < nands; i++) {
                 releaseUsers(order[i]);
             }
             return nands == all;
