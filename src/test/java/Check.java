@@ -125,6 +125,25 @@ final class Check {
         loadFault(0, text);
     }
 
+    /** As loadFault(), for texts in which ^ may stand for itself; place is -1 without a fault. */
+    static void loadAt(int number, int place, String text) {
+        TowerComputer x = new TowerComputer();
+        due("load of " + shortened(text), load(x, text), number);
+        due("place() in " + shortened(text), x.place(), place);
+    }
+
+    static void chipsAt(int number, int place, String text) {
+        TowerComputer x = new TowerComputer();
+        due("chips of " + shortened(text), chips(x, text), number);
+        due("place() in " + shortened(text), x.place(), place);
+    }
+
+    static void signsAt(int number, int place, String text) {
+        TowerComputer x = new TowerComputer();
+        due("signs of " + shortened(text), signs(x, text), number);
+        due("place() in " + shortened(text), x.place(), place);
+    }
+
     static void signsFault(int number, String marked) {
         TowerComputer x = new TowerComputer();
         due("signs of " + shortened(marked), signs(x, unmarked(marked)), number);
@@ -136,6 +155,14 @@ final class Check {
         due("chips of " + shortened(marked), chips(x, unmarked(marked)), number);
         due("place() in " + shortened(marked), x.place(), marked.indexOf('^'));
         due("tick() behind " + shortened(marked), number != 0 && x.tick() != -1, false);
+    }
+
+    static boolean isLetter(int b) {
+        return b >= 'A' && b <= 'Z' || b >= 'a' && b <= 'z';
+    }
+
+    static boolean isDigit(int b) {
+        return b >= '0' && b <= '9';
     }
 
     /** n times a text, in which # is the number of the time. */

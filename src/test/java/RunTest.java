@@ -20,68 +20,46 @@ public final class RunTest {
         Check.finish();
     }
 
-    /** Runs a body of main to its end, and tells what it has written. */
-    private static String written(String body) {
-        TowerComputer x = Check.mainProgram(body);
-        Check.due("run of " + Check.shortened(body), x.run(5000), 0);
-        Check.due("error() behind " + Check.shortened(body), x.error(), 0);
-        Check.due("place() behind " + Check.shortened(body), x.place(), -1);
-        return Check.output(x);
-    }
-
-    private static void value(String e, int want) {
-        Check.due(e, written("do Output.printInt(" + e + ");"), Integer.toString(want));
-    }
-
-    /** The program ends with this error, and the statement at hand is the one that is marked with ^. */
-    private static TowerComputer fails(int number, String marked) {
-        TowerComputer x = Check.program(marked.replace("^", ""));
-        Check.due("run of " + Check.shortened(marked), x.run(5000), 3);
-        Check.due("error() of " + Check.shortened(marked), x.error(), number);
-        Check.due("place() of " + Check.shortened(marked), x.place(), marked.indexOf('^'));
-        return x;
-    }
-
     private static void values() {
-        value("32767 + 1", -32768);
-        value("-32767 - 2", 32767);
-        value("2 + 3 * 4", 20);
-        value("10 - 2 - 3", 5);
-        value("300 * 300", 24464);
-        value("-5 * 7", -35);
-        value("12 & 10", 8);
-        value("12 | 3", 15);
-        value("~0", -1);
-        value("~5", -6);
-        value("-(-32767 - 1)", -32768);
-        value("true", -1);
-        value("false", 0);
-        value("null", 0);
-        value("1 < 2", -1);
-        value("2 < 1", 0);
-        value("-1 < 1", -1);
-        value("2 > 1", -1);
-        value("1 > 1", 0);
-        value("3 = 3", -1);
-        value("3 = 4", 0);
-        value("1 < 2 + 5", 4);
-        value("~(1 = 1)", 0);
-        value("--3", 3);
-        value("-3 + 5", 2);
-        value("~-1", 0);
+        Runs.value("32767 + 1", -32768);
+        Runs.value("-32767 - 2", 32767);
+        Runs.value("2 + 3 * 4", 20);
+        Runs.value("10 - 2 - 3", 5);
+        Runs.value("300 * 300", 24464);
+        Runs.value("-5 * 7", -35);
+        Runs.value("12 & 10", 8);
+        Runs.value("12 | 3", 15);
+        Runs.value("~0", -1);
+        Runs.value("~5", -6);
+        Runs.value("-(-32767 - 1)", -32768);
+        Runs.value("true", -1);
+        Runs.value("false", 0);
+        Runs.value("null", 0);
+        Runs.value("1 < 2", -1);
+        Runs.value("2 < 1", 0);
+        Runs.value("-1 < 1", -1);
+        Runs.value("2 > 1", -1);
+        Runs.value("1 > 1", 0);
+        Runs.value("3 = 3", -1);
+        Runs.value("3 = 4", 0);
+        Runs.value("1 < 2 + 5", 4);
+        Runs.value("~(1 = 1)", 0);
+        Runs.value("--3", 3);
+        Runs.value("-3 + 5", 2);
+        Runs.value("~-1", 0);
     }
 
     private static void divisions() {
-        value("7 / 2", 3);
-        value("-7 / 2", -3);
-        value("7 / -2", -3);
-        value("-7 / -2", 3);
-        value("(-32767 - 1) / -1", -32768);
-        value("(-32767 - 1) / 2", -16384);
-        value("0 / 5", 0);
-        fails(3, Check.inMain("^do Output.printInt(1 / 0);"));
+        Runs.value("7 / 2", 3);
+        Runs.value("-7 / 2", -3);
+        Runs.value("7 / -2", -3);
+        Runs.value("-7 / -2", 3);
+        Runs.value("(-32767 - 1) / -1", -32768);
+        Runs.value("(-32767 - 1) / 2", -16384);
+        Runs.value("0 / 5", 0);
+        Runs.fails(3, Check.inMain("^do Output.printInt(1 / 0);"));
         // Both sides are worked out ahead of the division.
-        TowerComputer x = fails(3, "class Main { function int f() { do Output.printInt(5); return 0; }"
+        TowerComputer x = Runs.fails(3, "class Main { function int f() { do Output.printInt(5); return 0; }"
             + " function void main() { var int i; ^let i = 1 / Main.f(); } }");
         Check.due("right side", Check.output(x), "5");
     }
@@ -101,14 +79,14 @@ public final class RunTest {
         Check.due("word(2048 + 65536)", x.word(2048 + 65536), 100000);
         Check.due("word(-2147483648)", x.word(Integer.MIN_VALUE), 100000);
         for (String a : new String[] {"2047", "14336", "16383", "16512", "0", "-1", "-32767 - 1"}) {
-            fails(20, Check.inMain("var Array a; let a = " + a + "; ^let a[0] = 1;"));
-            fails(20, Check.inMain("var Array a; let a = " + a + "; ^do Output.printInt(a[0]);"));
+            Runs.fails(20, Check.inMain("var Array a; let a = " + a + "; ^let a[0] = 1;"));
+            Runs.fails(20, Check.inMain("var Array a; let a = " + a + "; ^do Output.printInt(a[0]);"));
         }
-        fails(20, Check.inMain("var Array a; let a = 14335; ^let a[1] = 1;"));
+        Runs.fails(20, Check.inMain("var Array a; let a = 14335; ^let a[1] = 1;"));
         // The array and the index are worked out ahead of the value, the word is written behind it.
-        TowerComputer y = fails(3, Check.inMain("var Array a; let a = 0; ^let a[0] = 1 / 0;"));
+        TowerComputer y = Runs.fails(3, Check.inMain("var Array a; let a = 0; ^let a[0] = 1 / 0;"));
         Check.due("word(2048)", y.word(2048), 0);
-        Check.due("order", written("var Array a; let a = 2048; let a[0] = 3; let a[a[0]] = 7; let a[1] = a[3];"
+        Check.due("order", Runs.written("var Array a; let a = 2048; let a[0] = 3; let a[a[0]] = 7; let a[1] = a[3];"
             + " do Output.printInt(a[1]);"), "7");
         TowerComputer z = Check.program("class Main { static Array s; function int f() { let s = 3000; return 1; }"
             + " function void main() { let s = 2048; let s[Main.f()] = 4; let s[Main.f()] = 5; } }");
@@ -118,36 +96,30 @@ public final class RunTest {
     }
 
     private static void variables() {
-        Check.due("vars at each call", runOf("class Main { function int f() { var int a, b; let a = a + 1; let b = b - 1;"
+        Check.due("vars at each call", Runs.runOf("class Main { function int f() { var int a, b; let a = a + 1; let b = b - 1;"
             + " return a * 10 - b; } function void main() { do Output.printInt(Main.f()); do Output.printInt(Main.f()); } }"),
             "1111");
-        Check.due("statics of two classes", runOf("class A { static int a, b; function void put() { let a = 1; let b = 2; }"
+        Check.due("statics of two classes", Runs.runOf("class A { static int a, b; function void put() { let a = 1; let b = 2; }"
             + " function int get() { return a * 10 + b; } } class Main { static int a; static char b;"
             + " function void main() { let a = 3; let b = 4; do A.put(); do Output.printInt(a * 10 + b);"
             + " do Output.printInt(A.get()); } }"), "3412");
-        Check.due("parameters", runOf("class Main { function int f(int a, int b, int c) { let a = a * 2;"
+        Check.due("parameters", Runs.runOf("class Main { function int f(int a, int b, int c) { let a = a * 2;"
             + " return a * 100 + (b * 10) + c; } function void main() { do Output.printInt(Main.f(1, 2, 3)); } }"), "223");
-        Check.due("what a caller has stays", runOf("class A { field int x; constructor A new(int a) { let x = a; return this; }"
+        Check.due("what a caller has stays", Runs.runOf("class A { field int x; constructor A new(int a) { let x = a; return this; }"
             + " method int f(A o, int p) { var int v, w; let v = 7; let w = o.get() + Main.id(p); let v = v + w; let x = x + 1;"
             + " return v * 100 + (p * 10) + x; } method int get() { var int u, v; let v = 9; return x; } } class Main {"
             + " function int id(int a) { var int b, c; let c = a; return c; } function void main() { var A a, b;"
             + " let a = A.new(1); let b = A.new(2); do Output.printInt(a.f(b, 3)); do Output.printInt(a.get()); } }"), "12322");
-        Check.due("as many variables as there may be", runOf("class A { static int " + Check.listed(12, "s#") + "; field int "
+        Check.due("as many variables as there may be", Runs.runOf("class A { static int " + Check.listed(12, "s#") + "; field int "
             + Check.listed(12, "f#") + "; constructor A new() { " + Check.times(12, "let s# = 1; let f# = 10; ") + "return this; }"
             + " method int m(" + Check.listed(12, "int p#") + ") { var int " + Check.listed(12, "v#") + "; let v11 = 1000; let p11 = 100;"
             + " return s0 + s11 + f0 + f11 + p0 + p11 + v0 + v11; } } class Main { function void main() { var A a;"
             + " let a = A.new(); do Output.printInt(a.m(" + Check.listed(12, "5") + ")); } }"), "1127");
-        Check.due("a var hides a field, and a field is no static", runOf("class Main { field int x; static int y;"
+        Check.due("a var hides a field, and a field is no static", Runs.runOf("class Main { field int x; static int y;"
             + " constructor Main new() { let x = 1; let y = 2; return this; }"
             + " method int f(int x) { var int y; let y = 5; return x * 10 + y; } method int g() { return x * 10 + y; }"
             + " function void main() { var Main m; let m = Main.new(); do Output.printInt(m.f(4));"
             + " do Output.printInt(m.g()); } }"), "4512");
-    }
-
-    private static String runOf(String text) {
-        TowerComputer x = Check.program(text);
-        Check.due("run of " + Check.shortened(text), x.run(5000), 0);
-        return Check.output(x);
     }
 
     private static void objects() {
@@ -170,84 +142,66 @@ public final class RunTest {
             + Check.inMain("var E e; let e = E.new(); do Output.printInt(e); do Output.printInt(E.new());"));
         Check.due("run", y.run(500), 0);
         Check.due("objects without fields", Check.output(y), "20482049");
-        fails(20, "class A { field int x; method int f() { ^return x; } } " + Check.inMain("var A a; do a.f();"));
-        fails(20, "class A { field int x; method int f() { ^let x = 1; } } " + Check.inMain("var A a; do a.f();"));
+        Runs.fails(20, "class A { field int x; method int f() { ^return x; } } " + Check.inMain("var A a; do a.f();"));
+        Runs.fails(20, "class A { field int x; method int f() { ^let x = 1; } } " + Check.inMain("var A a; do a.f();"));
         // In the constructor itself no statement has begun when there is no room for the block.
-        TowerComputer z = fails(6, "class A { field int x; constructor A new() { return this; } } "
+        TowerComputer z = Runs.fails(6, "class A { field int x; constructor A new() { return this; } } "
             + Check.inMain("var int i; while (i < 101) { let i = i + 1; ^do A.new(); }"));
         Check.due("count(4)", z.count(4), 100);
         Check.due("count(2)", z.count(2), 2);
     }
 
     private static void conditions() {
-        Check.due("if", written("if (5) { do Output.printInt(1); } if (0) { do Output.printInt(2); }"
+        Check.due("if", Runs.written("if (5) { do Output.printInt(1); } if (0) { do Output.printInt(2); }"
             + " if (0) { do Output.printInt(3); } else { do Output.printInt(4); }"
             + " if (-1) { do Output.printInt(5); } else { do Output.printInt(6); }"), "145");
-        Check.due("while", written("var int i; while (i < 3) { let i = i + 1; do Output.printInt(i); }"
+        Check.due("while", Runs.written("var int i; while (i < 3) { let i = i + 1; do Output.printInt(i); }"
             + " while (i) { let i = i - 1; } do Output.printInt(i);"), "1230");
-        Check.due("nested", written("var int i, j; while (i < 3) { let j = 0; while (j < i) { if (j = 1) { do"
+        Check.due("nested", Runs.written("var int i, j; while (i < 3) { let j = 0; while (j < i) { if (j = 1) { do"
             + " Output.printChar(33); } else { do Output.printInt(j); } let j = j + 1; } let i = i + 1; }"), "00!");
-        Check.due("return ends main", written("while (true) { do Output.printInt(1); return; }"), "1");
-    }
-
-    private static void steps(String text, int want) {
-        TowerComputer x = Check.program(text);
-        Check.due("run of " + text, x.run(5000), 0);
-        Check.due("count(1) of " + text, x.count(1), want);
-        Check.due("run with as much fuel of " + text, x.run(want), 0);
-        Check.due("run with less fuel of " + text, x.run(want - 1), 1);
-        Check.due("count(1) with less fuel of " + text, x.count(1), want - 1);
+        Check.due("return ends main", Runs.written("while (true) { do Output.printInt(1); return; }"), "1");
     }
 
     private static void steps() {
-        steps(Check.inMain(""), 1);
-        steps(Check.inMain("return;"), 2);
-        steps(Check.inMain("if (0) { return; }"), 2);
-        steps(Check.inMain("if (1) { return; }"), 3);
-        steps(Check.inMain("if (0) { return; } else { return; }"), 3);
-        steps(Check.inMain("while (0) { return; }"), 3);
-        steps(Check.inMain("var int i; while (i < 3) { let i = i + 1; }"), 9);
-        steps(Check.inMain("do Math.abs(Math.sqrt(4) * 3); let x = \"abc\";").replace("main() {", "main() { var int x;"), 3);
-        steps("class Main { function int f(int a) { return a; } function void main() { do Main.f(Main.f(1)); } }", 6);
-        steps("class Main { constructor Main new() { do m(); } method void m() { } function void main() { do Main.new(); } }", 5);
-    }
-
-    /** With so much fuel the run ends for want of it, at the statement that is marked. */
-    private static void outOfFuel(int fuel, String marked) {
-        TowerComputer x = Check.program(marked.replace("^", ""));
-        Check.due("run(" + fuel + ") of " + marked, x.run(fuel), 1);
-        Check.due("place() behind run(" + fuel + ") of " + marked, x.place(), marked.indexOf('^'));
-        Check.due("count(1) behind run(" + fuel + ") of " + marked, x.count(1), fuel);
-        Check.due("error() behind run(" + fuel + ") of " + marked, x.error(), 0);
+        Runs.steps(Check.inMain(""), 1);
+        Runs.steps(Check.inMain("return;"), 2);
+        Runs.steps(Check.inMain("if (0) { return; }"), 2);
+        Runs.steps(Check.inMain("if (1) { return; }"), 3);
+        Runs.steps(Check.inMain("if (0) { return; } else { return; }"), 3);
+        Runs.steps(Check.inMain("while (0) { return; }"), 3);
+        Runs.steps(Check.inMain("var int i; while (i < 3) { let i = i + 1; }"), 9);
+        Runs.steps(Check.inMain("do Math.abs(Math.sqrt(4) * 3); let x = \"abc\";").replace("main() {", "main() { var int x;"), 3);
+        Runs.steps("class Main { function int f(int a) { return a; } function void main() { do Main.f(Main.f(1)); } }", 6);
+        Runs.steps("class Main { constructor Main new() { do m(); } method void m() { } function void main() { do Main.new(); } }", 5);
     }
 
     private static void places() {
-        outOfFuel(0, " // x\n ^class Main { function void main() { return; } }");
-        outOfFuel(0, "^class A { } class Main { function void main() { } }");
-        outOfFuel(1, Check.inMain("^return;"));
-        outOfFuel(1, Check.inMain("^let x = 1; return;").replace("main() {", "main() { var int x;"));
-        outOfFuel(2, Check.inMain("let x = 1; ^return;").replace("main() {", "main() { var int x;"));
-        outOfFuel(1, Check.inMain("^while (1) { do Sys.wait(1); }"));
-        outOfFuel(2, Check.inMain("^while (1) { do Sys.wait(1); }"));
-        outOfFuel(3, Check.inMain("while (1) { ^do Sys.wait(1); }"));
-        outOfFuel(4, Check.inMain("^while (1) { do Sys.wait(1); }"));
-        outOfFuel(5, Check.inMain("while (1) { ^do Sys.wait(1); }"));
-        outOfFuel(2, Check.inMain("if (1) { ^return; }"));
-        outOfFuel(3, Check.inMain("if (1) { if (0) { } } ^return;"));
+        Runs.outOfFuel(0, " // x\n ^class Main { function void main() { return; } }");
+        Runs.outOfFuel(0, "^class A { } class Main { function void main() { } }");
+        Runs.outOfFuel(1, Check.inMain("^return;"));
+        Runs.outOfFuel(1, Check.inMain("^let x = 1; return;").replace("main() {", "main() { var int x;"));
+        Runs.outOfFuel(2, Check.inMain("let x = 1; ^return;").replace("main() {", "main() { var int x;"));
+        Runs.outOfFuel(1, Check.inMain("^while (1) { do Sys.wait(1); }"));
+        Runs.outOfFuel(2, Check.inMain("^while (1) { do Sys.wait(1); }"));
+        Runs.outOfFuel(3, Check.inMain("while (1) { ^do Sys.wait(1); }"));
+        Runs.outOfFuel(4, Check.inMain("^while (1) { do Sys.wait(1); }"));
+        Runs.outOfFuel(5, Check.inMain("while (1) { ^do Sys.wait(1); }"));
+        Runs.outOfFuel(2, Check.inMain("if (1) { ^return; }"));
+        Runs.outOfFuel(3, Check.inMain("if (1) { if (0) { } } ^return;"));
         String two = "class Main { function int f(int a) { @let a = 1; #return a; } function void main() { $do Main.f(Main.f(1)); } }";
-        outOfFuel(1, two.replace("$", "^").replaceAll("[@#]", ""));
-        outOfFuel(2, two.replace("$", "^").replaceAll("[@#]", ""));
-        outOfFuel(3, two.replace("@", "^").replaceAll("[$#]", ""));
-        outOfFuel(4, two.replace("#", "^").replaceAll("[$@]", ""));
-        outOfFuel(5, two.replace("$", "^").replaceAll("[@#]", ""));
-        outOfFuel(6, two.replace("@", "^").replaceAll("[$#]", ""));
-        fails(3, Check.inMain("var int i; ^while (6 / (3 - i)) { let i = i + 1; }"));
-        fails(3, Check.inMain("var int i; while (true) { if (i = 2) { ^let i = 1 / 0; } let i = i + 1; }"));
-        fails(3, Check.inMain("^if (1 / 0) { }"));
-        fails(3, "class Main { function int f() { do Sys.wait(1); return 0; } function void main() { ^return 1 / Main.f(); } }");
-        fails(7, "class Main { function int f() { if (1) { ^do Sys.error(7); } return 0; } function void main() { return Main.f(); } }");
-        fails(-9, Check.inMain("^do Sys.error(-9);"));
-        fails(0, Check.inMain("^do Sys.error(0);"));
+        Runs.outOfFuel(1, two.replace("$", "^").replaceAll("[@#]", ""));
+        Runs.outOfFuel(2, two.replace("$", "^").replaceAll("[@#]", ""));
+        Runs.outOfFuel(3, two.replace("@", "^").replaceAll("[$#]", ""));
+        Runs.outOfFuel(4, two.replace("#", "^").replaceAll("[$@]", ""));
+        Runs.outOfFuel(5, two.replace("$", "^").replaceAll("[@#]", ""));
+        Runs.outOfFuel(6, two.replace("@", "^").replaceAll("[$#]", ""));
+        Runs.fails(3, Check.inMain("var int i; ^while (6 / (3 - i)) { let i = i + 1; }"));
+        Runs.fails(3, Check.inMain("var int i; while (true) { if (i = 2) { ^let i = 1 / 0; } let i = i + 1; }"));
+        Runs.fails(3, Check.inMain("^if (1 / 0) { }"));
+        Runs.fails(3, "class Main { function int f() { do Sys.wait(1); return 0; } function void main() { ^return 1 / Main.f(); } }");
+        Runs.fails(7, "class Main { function int f() { if (1) { ^do Sys.error(7); } return 0; } function void main() { return Main.f(); } }");
+        Runs.fails(-9, Check.inMain("^do Sys.error(-9);"));
+        Runs.fails(0, Check.inMain("^do Sys.error(0);"));
     }
 
     private static void depth() {
