@@ -36,7 +36,7 @@ public final class CommandTest {
         return KINDS[kind] + (labelled ? " " + first : called ? " " + first + " " + second : "");
     }
 
-    private static String all(TowerComputer x) {
+    static String all(TowerComputer x) {
         StringBuilder text = new StringBuilder();
         for (int i = 0; i < 3000 && x.command(i, 0) != -1; i++) {
             text.append(i == 0 ? "" : ", ").append(written(x, i));
