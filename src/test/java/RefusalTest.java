@@ -17,7 +17,7 @@ public final class RefusalTest {
     }
 
     /** A computer with a program that has been run, words that have been done, and a board that has ticked. */
-    private static TowerComputer busy() {
+    static TowerComputer busy() {
         TowerComputer x = new TowerComputer();
         Check.keys(x, "some keys");
         Check.load(x, Check.inMain("do Screen.drawCircle(20, 10, 7); do Output.printString(\"abcdefghij\");"
@@ -34,7 +34,7 @@ public final class RefusalTest {
     }
 
     /** All that can be asked without a change, as one text. */
-    private static String state(TowerComputer x) {
+    static String state(TowerComputer x) {
         StringBuilder all = new StringBuilder();
         all.append(x.place()).append(' ').append(x.error());
         for (int what = 0; what <= 7; what++) {
