@@ -80,7 +80,8 @@ public final class RunningEdgesTest {
     /** A constructor makes a block of as many words as its class has fields, 1 at least. */
     private static void sizesOfObjects() {
         for (int n : new int[] {0, 1, 2, 3, 11, 12}) {
-            TowerComputer x = Check.program("class A { " + Check.times(n, "field int f#; ") + "constructor A new() { return this; } } " + Check.inMain("do Output.printInt(A.new()); do Output.printInt(A.new());"));
+            TowerComputer x = Check.program("class A { " + Check.times(n, "field int f#; ") + "constructor A new() {"
+                + " return this; } } " + Check.inMain("do Output.printInt(A.new()); do Output.printInt(A.new());"));
             Check.due("run", x.run(50), 0);
             int words = Math.max(1, n);
             Check.due("objects of " + n + " fields", Check.output(x), "2048" + (2048 + words));
