@@ -9,6 +9,7 @@ public final class CallEdgesTest {
         lengthsOfALoad();
         lengthsOfSignsAndChips();
         onlyTheFirstBytes();
+        longestTexts();
         programsAndFaults();
         lengthsOfKeys();
         keysOfTheNextRuns();
@@ -167,6 +168,39 @@ public final class CallEdgesTest {
         Check.feed(y, Check.times(50, "$$$$"));
         Check.due("signs(0)", y.signs(0), 0);
         Check.due("load behind longer texts", Check.load(y, text), 0);
+    }
+
+    /** A text that ends with the last of so many bytes. */
+    private static String atTheEnd(int bytes, String text) {
+        return Check.times(bytes - text.length(), "\n") + text;
+    }
+
+    /** Texts of 4000 bytes, and of one less, are read to their last byte. */
+    private static void longestTexts() {
+        for (int bytes : new int[] {3999, 4000}) {
+            TowerComputer x = new TowerComputer();
+            Check.due("load", Check.load(x, atTheEnd(bytes, Check.inMain("do Sys.wait(0);"))), 0);
+            Check.due("run", x.run(9), 3);
+            Check.due("place()", x.place(), bytes - "do Sys.wait(0); } }".length());
+            Check.loadAt(7, bytes, atTheEnd(bytes, "class A { }"));
+            Check.loadAt(1, bytes, atTheEnd(bytes, "class A {"));
+            Check.loadAt(1, bytes - 1, atTheEnd(bytes, "class A { }$"));
+            Check.loadAt(1, bytes - 2, atTheEnd(bytes, "class A { } /*"));
+            Check.loadAt(1, bytes - 1, atTheEnd(bytes, "class A { function int f() { return \""));
+            Check.loadAt(1, bytes, atTheEnd(bytes, "class A { function int f() { return 1"));
+            Check.loadAt(1, bytes, atTheEnd(bytes, "class A"));
+            Check.loadAt(7, bytes, atTheEnd(bytes, "class A { } //"));
+            for (String sign : new String[] {"@7", "@name", "(L)", "D=A", "0;JMP", "D", "AMD=D|M;JMP", "//", "@7 //"}) {
+                Check.signsAt(0, -1, atTheEnd(bytes, sign));
+            }
+            Check.signsAt(1, bytes - 1, atTheEnd(bytes, "/"));
+            Check.signsAt(1, bytes - 1, atTheEnd(bytes, "@"));
+            Check.signsAt(3, bytes - 3, atTheEnd(bytes, "(L)\n(L)"));
+            Check.chipsAt(0, -1, atTheEnd(bytes, "CHIP B { IN a; OUT o; PARTS: Nand(a=a, b=true, out=o); }"));
+            Check.chipsAt(1, bytes, atTheEnd(bytes, "CHIP B"));
+            Check.chipsAt(1, bytes - 1, atTheEnd(bytes, "CHIP B { IN a[1."));
+            Check.chipsAt(6, bytes, atTheEnd(bytes, "CHIP B { IN a; OUT o; PARTS: Nand(a=x, out=x); }"));
+        }
     }
 
     /** Promise 3: 1 to 7 a fault, and there is no program then. */

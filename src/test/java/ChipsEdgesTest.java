@@ -28,6 +28,7 @@ public final class ChipsEdgesTest {
         roomOfPins();
         roomOfParts();
         roomOfInnerNames();
+        mostLinks();
         syntaxAndRoom();
         chipsToldTwice();
         pinsToldTwice();
@@ -323,6 +324,20 @@ public final class ChipsEdgesTest {
         fault(2, "Nand(" + Check.listed(99, "out=i#") + ", out=p, out=^q);");
         Check.chipsFault(0, "CHIP A { IN a; OUT o; PARTS: Nand(" + Check.listed(100, "out=i#") + "); } CHIP B { IN a; OUT o; PARTS: Nand("
             + Check.listed(100, "out=i#") + "); }");
+    }
+
+    /** As many links as 2000 tokens hold, nearly: the last one is looked at like the first one. */
+    private static void mostLinks() {
+        String eleven = Check.listed(11, "p#=a");
+        String text = "CHIP W { IN " + Check.listed(11, "p#") + "; OUT o; PARTS: } " + "CHIP A { IN a; OUT o; PARTS: "
+            + Check.times(24, "W(" + eleven + ");") + " } CHIP B { IN a; OUT o; PARTS: " + Check.times(16, "W(" + eleven + ");") + "W("
+            + Check.listed(10, "p#=a") + ",@); }";
+        text = text.replace("; OUT", ";OUT").replace(" { ", "{").replace(": ", ":").replace(" } ", "}");
+        Check.chipsFault(0, text.replace("@", "p10=a"));
+        Check.chipsFault(4, text.replace("@", "p10=^x"));
+        Check.chipsFault(4, text.replace("@", "^q=a"));
+        Check.chipsFault(3, text.replace("@", "^p9=a"));
+        Check.chipsFault(5, text.replace("@", "p10^[1]=a"));
     }
 
     /** Faults 1 and 2 come ahead of all others. */

@@ -680,6 +680,8 @@ public final class LanguageEdgesTest {
         Check.loadFault(4, Check.inMain("var int Math; do Math.^abs(1);"));
         Check.loadFault(5, Check.inMain("var String Array; do Array.^new(1);"));
         Check.loadFault(4, "class A { field int Output; method int f() { do Output.^println(); } } " + MAIN);
+        Check.loadFault(6, "class A { field int Output; function int f() { do ^Output.println(); } } " + MAIN);
+        Check.loadFault(4, "class A { static int Output; function int f() { do Output.^println(); } } " + MAIN);
         // Others mean the first one of those told twice, and the system's ahead of the text's.
         Check.loadFault(4, Check.inMain("do A.f(); do A.^g();") + "class A { function int f() { } } class A { function int g() { } }");
         Check.loadFault(5, Check.inMain("do A.^f();") + "class A { method int f() { } function int f() { } }");
