@@ -553,6 +553,16 @@ public final class ChipsEdgesTest {
     /** A link of a part that is no chip is not looked at; what is faulty is asked no further. */
     private static void whatIsNotLookedAt() {
         fault(4, "^Nope(a=a, a=a, a=o, a=nope, a[9]=v[9], out=a);");
+        // Where a range is faulty neither whether its bits are linked nor its width is asked.
+        for (String range : new String[] {"[4]", "[0..4]", "[1..0]", "[99]"}) {
+            fault(5, "W(p=v, p^" + range + "=a);");
+            fault(5, "W(p=v, p^" + range + "=nope);");
+            fault(5, "W(q=w); W(s=w^" + range + ");");
+            fault(5, "W(p=v^" + range + ", p=v);");
+            fault(5, "W(p[0]=v^" + range + ");");
+            fault(5, "W(p=x^" + range + "); W(s=x);");
+            fault(3, "W(s=x); W(s=^x" + range + ");");
+        }
         // Where the left range is faulty the width of an inner name is not asked.
         fault(5, "W(r=x); W(p=x); W(q^[9]=x);");
         fault(5, "W(q^[3..2]=x); W(p=x); W(r=x);");
