@@ -131,9 +131,13 @@ public final class ReadmeTest {
         Check.due("bytes of objects that calls have made are " + made, made < 1000, true);
     }
 
+    /** 0 on a Java machine that does not count them. */
     private static long madeBytes() {
-        ThreadMXBean threads = (ThreadMXBean) ManagementFactory.getThreadMXBean();
-        return threads.getThreadAllocatedBytes(Thread.currentThread().getId());
+        if (ManagementFactory.getThreadMXBean() instanceof ThreadMXBean threads
+            && threads.isThreadAllocatedMemorySupported() && threads.isThreadAllocatedMemoryEnabled()) {
+            return threads.getThreadAllocatedBytes(Thread.currentThread().getId());
+        }
+        return 0;
     }
 
     /** A text as numbers for feed(), with blanks behind it. */
